@@ -1,0 +1,68 @@
+import java.nio.charset.StandardCharsets;
+
+/** What the tests of the project share: telling answers that are not due, and feeding bytes. */
+final class Check {
+    private final String test;
+    private int wrong;
+    private int looked;
+
+    Check(String test) {
+        this.test = test;
+    }
+
+    void same(String what, long got, long due) {
+        looked++;
+        if (got != due) {
+            wrong++;
+            if (wrong <= 40) {
+                System.out.println(test + ": " + what + " answered " + got + ", due is " + due);
+            }
+        }
+    }
+
+    void same(String what, boolean got, boolean due) {
+        same(what, got ? 1 : 0, due ? 1 : 0);
+    }
+
+    /** Ends the test: exit code 1 if an answer was wrong. */
+    void end() {
+        System.out.println(test + ": " + looked + " answers looked at, " + wrong + " wrong");
+        System.exit(wrong == 0 && looked > 0 ? 0 : 1);
+    }
+
+    /** The bytes become these alone, eight a call as far as it goes. */
+    static void give(GuardForge x, byte[] row) {
+        x.cutBytes(0);
+        for (int from = 0; from < row.length; from += 8) {
+            int n = Math.min(8, row.length - from);
+            long v = 0;
+            for (int k = 0; k < n; k++) {
+                v = v << 8 | row[from + k] & 255;
+            }
+            x.giveBytes(v, n);
+        }
+    }
+
+    static int policy(GuardForge x, String text) {
+        give(x, text.getBytes(StandardCharsets.ISO_8859_1));
+        return x.loadPolicy();
+    }
+
+    static int program(GuardForge x, byte[] row) {
+        give(x, row);
+        return x.loadProgram();
+    }
+
+    void policyFault(GuardForge x, String text, int fault, int place) {
+        String shown = text.length() > 70 ? text.substring(0, 70) + ".." : text;
+        same("loadPolicy of " + shown, policy(x, text), fault);
+        same("lookAt(11) behind " + shown, x.lookAt(11), fault);
+        same("lookAt(12) behind " + shown, x.lookAt(12), place);
+    }
+
+    void programFault(GuardForge x, String name, byte[] row, int fault, int place) {
+        same("loadProgram of " + name, program(x, row), fault);
+        same("lookAt(11) behind " + name, x.lookAt(11), fault);
+        same("lookAt(12) behind " + name, x.lookAt(12), place);
+    }
+}
