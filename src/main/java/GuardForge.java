@@ -86,9 +86,7 @@ public final class GuardForge {
     private final Watch watch = new Watch();
 
     public GuardForge() {
-        policy.beFirst();
-        policy.letters.divide(policy);
-        stateMaker.make(policy);
+        // A new policy, machine and watch are as the document says of a new object.
     }
 
     public boolean giveBytes(long v, int n) {
@@ -793,20 +791,25 @@ public final class GuardForge {
         /** Of call c: the states that every letter of c leads back to themselves. */
         final long[] stays = new long[CALLS];
 
+        /** (node a (go any a)), which has one state, and one letter a call. */
+        Policy() {
+            nodes = 1;
+            sets = 1;
+            states = 1;
+            clauses = 1;
+            clauseFrom[1] = 1;
+            clauseCall[0] = ANY_CALL;
+            for (int c = 0; c < CALLS; c++) {
+                reach[c * MOST_SETS] = 1;
+                stays[c] = 1;
+            }
+        }
+
         void empty() {
             counters = 0;
             nodes = 0;
             clauses = 0;
             guards = 0;
-        }
-
-        /** What a new object has: (node a (go any a)). */
-        void beFirst() {
-            empty();
-            nodes = 1;
-            clauses = 1;
-            clauseCall[0] = ANY_CALL;
-            close();
         }
 
         /** Done when all is read: where the last clauses end, and which calls have rules. */
@@ -865,6 +868,18 @@ public final class GuardForge {
         private final int[] starts = new int[2 * MOST_LETTERS + CALLS * SUBJECTS];
         private final int[] rowFrom = new int[CALLS * SUBJECTS + 1];
         private final int[] first = new int[CALLS + 1];
+
+        /** Nothing is divided, so there is one letter a call. */
+        Letters() {
+            for (int row = 0; row < CALLS * SUBJECTS; row++) {
+                boolean argument = row % SUBJECTS < row / SUBJECTS % 4;
+                starts[row] = argument ? Integer.MIN_VALUE : 0;
+                rowFrom[row + 1] = row + 1;
+            }
+            for (int c = 0; c < CALLS; c++) {
+                first[c + 1] = c + 1;
+            }
+        }
 
         int count() {
             return first[CALLS];

@@ -70,7 +70,7 @@ public final class BytesTest {
     private static void fillUp() {
         // The room of 8192 bytes can't be filled in 512 calls; this program keeps its word beyond these, too.
         GuardForge x = new GuardForge();
-        Check.program(x, Build.longProgram());
+        Check.program(x, longProgram());
         check.same("saved", x.saveProgram(false), 8188);
         x.turnBytes();
         check.same("turned", x.lookAt(9), 8188);
@@ -84,6 +84,26 @@ public final class BytesTest {
         check.same("poke the last", x.pokeByte(8191, 9), true);
         check.same("poke behind", x.pokeByte(8192, 9), false);
         check.same("poked", x.byteOf(8191, true), 9);
+    }
+
+    /** Seven functions, 8188 bytes: 6 for each push and pop, and what is left over as jumps to the next one. */
+    private static byte[] longProgram() {
+        byte[][] functions = new byte[7][];
+        for (int f = 0; f < 7; f++) {
+            int left = 8184 / 7 + (f < 8184 % 7 ? 1 : 0) - 9;
+            StringBuilder words = new StringBuilder();
+            int at = 0;
+            for (; left >= 6; left -= 6) {
+                words.append("push 7, pop, ");
+                at += 2;
+            }
+            if (left >= 3) {
+                words.append("jump ").append(at + 1).append(", ");
+                left -= 3;
+            }
+            functions[f] = Build.function(0, 0, 0, 0, words + Build.times(left, "return", "return"));
+        }
+        return Build.program(functions);
     }
 
     private static void cutAndPoke() {
@@ -116,7 +136,7 @@ public final class BytesTest {
         x.giveBytes(77, 1);
         x.turnBytes();
         check.same("none were written", x.lookAt(9), 0);
-        byte[] row = Build.program(Build.function(0, 0, 0, 0, Build.code(Build.op(27))));
+        byte[] row = Build.program(Build.function(0, 0, 0, 0, "return"));
         check.same("load", Check.program(x, row), 0);
         check.same("save", x.saveProgram(false), row.length);
         check.same("written", x.lookAt(10), row.length);
