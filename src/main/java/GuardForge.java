@@ -1060,7 +1060,7 @@ public final class GuardForge {
         private boolean makeSets() {
             policy.sets = 1;
             setNodes[0] = 1;
-            for (int s = 0; s < policy.sets; s++) {
+            for (int s = 0; s < policy.sets && s < MOST_SETS; s++) {
                 for (int a = 0; a < letters; a++) {
                     int nodes = leadSet(setNodes[s], a);
                     int set = nodes == 0 ? NONE : setIndex(nodes);
@@ -1144,7 +1144,7 @@ public final class GuardForge {
             stateOfGroup[group[0]] = 0;
             setOfState[0] = 0;
             policy.states = 1;
-            for (int p = 0; p < policy.states; p++) {
+            for (int p = 0; p < policy.states && p < MOST_SETS; p++) {
                 for (int a = 0; a < letters; a++) {
                     int set = setTo[setOfState[p] * MOST_LETTERS + a];
                     policy.to[p * MOST_LETTERS + a] = set == NONE ? NONE : stateOf(set);

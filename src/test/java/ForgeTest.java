@@ -62,6 +62,13 @@ public final class ForgeTest {
         x = with("(node a (go any a))", plain("host 0, return"));
         check.same("no guards", x.forgeIt(), 0);
         forged(x, plain("host 0, return"));
+        x = with(RULED, Build.program(Build.function(0, 1, 1, 1, "push 3, load 0, call 1, size, return"),
+                Build.function(2, 5, 10, 2, "load 0, host 1, pop, load 1, return")));
+        check.same("a function with parameters", x.forgeIt(), 1);
+        forged(x, Build.program(Build.function(0, 1, 1, 1, "push 3, load 0, call 1, size, return"),
+                Build.function(2, 5, 10, 2, "load 0, guard 1, host 1, pop, load 1, return")));
+        check.same("it runs", x.runIt(true, 100), 0);
+        check.same("its call", x.traceAt(0, 1), 3);
         x = with(RULED, Build.program(Build.function(0, 0, 0, 0, "call 1, return, host 0"),
                 Build.function(0, 1, 1, 2, "host 0, pop, load 0, return")));
         check.same("in all functions, come to or not", x.forgeIt(), 2);
@@ -103,6 +110,12 @@ public final class ForgeTest {
         check.same("400 instructions", x.lookAt(7), 400);
         check.same("load", Check.program(x, plain("push 1, " + Build.times(199, "host 1", "pop, return"))), 0);
         check.same("401 instructions", x.forgeIt(), -2);
+        check.same("nothing forged", x.lookAt(7), -1);
+        check.same("load", Check.program(x, plain(Build.times(199, "push 1, pop", "push 1, return"))), 0);
+        check.same("400 instructions that need none", x.forgeIt(), 0);
+        check.same("400 instructions", x.lookAt(7), 400);
+        check.same("load", Check.program(x, plain(Build.times(198, "push 1, pop", "host 0, pop, push 1, return"))), 0);
+        check.same("400 instructions that need one", x.forgeIt(), -2);
         check.same("nothing forged", x.lookAt(7), -1);
         // Twelve functions that grow to more than 8192 bytes together.
         byte[][] functions = new byte[12][];

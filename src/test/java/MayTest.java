@@ -12,6 +12,7 @@ public final class MayTest {
         loops();
         nowhere();
         calls();
+        waysOut();
         recursion();
         handlers();
         handlersOfCalls();
@@ -88,6 +89,24 @@ public final class MayTest {
         may(x, 0, 1, 7, 7);
         may(x, 1, 7, 7);
         may(x, 2, 0, 0);
+    }
+
+    /** States a 0, b 1, c 2: call 0 leads from a to b, call 4 from a to c. */
+    private static final String FORK = "(node a (go 0 b) (go 4 c)) (node b (go 8 b)) (node c (go 12 c))";
+
+    private static void waysOut() {
+        byte[] row = Build.program(Build.function(0, 0, 0, 0, "call 1, return, return", Build.handler(0, 1, 2)),
+                Build.function(0, 1, 0, 0, "load 0, ifnot 4, host 0, return, host 4, return"));
+        GuardForge x = with(FORK, row);
+        // Both RETURNS come out; what is thrown may be from anywhere.
+        may(x, 0, 1, 6, 7);
+        may(x, 1, 1, 1, 1, 2, 1, 4);
+        // What comes out of a function does so only behind a CALL that is come to.
+        row = Build.program(Build.function(0, 0, 0, 0, "call 1, host 8, pop, call 1, return, return", Build.handler(3, 4, 5)),
+                Build.function(0, 1, 0, 0, "push 1, pop, return"));
+        x = with(FORK, row);
+        may(x, 0, 1, 1, 0, 0, 0, 0);
+        may(x, 1, 1, 1, 1);
     }
 
     private static void recursion() {
@@ -220,6 +239,13 @@ public final class MayTest {
         check.same("a guard of another call", with(ROUND, plain("guard 4, host 0, return")).certifyIt(false), 1);
         check.same("two guards", with(ROUND, plain("guard 0, guard 0, host 0, return")).certifyIt(false), 1);
         check.same("a jump to the host", with(ROUND, plain("guard 4, host 4, return, jump 1")).certifyIt(false), 1);
+        // Nothing of programs that were there before is behind the last instruction.
+        for (int n = 0; n < 3; n++) {
+            check.same("load", Check.program(x, plain("return, guard 0, host 0")), 0);
+            check.same("certified", x.certifyIt(false), 0);
+        }
+        check.same("load", Check.program(x, plain("return, guard 0")), 0);
+        check.same("a guard at the end of a shorter one", x.certifyIt(false), 2);
         GuardForge y = with(ROUND, Build.program(Build.function(0, 0, 0, 0, "guard 0, host 0, call 1, return"),
                 Build.function(0, 0, 0, 0, "host 4, host 8, return")));
         check.same("in function 1", y.certifyIt(false), 1 + 512 + 1);

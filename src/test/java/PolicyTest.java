@@ -179,6 +179,13 @@ public final class PolicyTest {
         at("(counter c 1 (up 1 " + again(4, g) + "@" + g + "))(node a)", 2);
         at("(node a (go 1 " + again(4, g) + "@(", 2);
         right("(node a (go 1 " + again(300, "(not ") + g + again(300, ")") + " a))");
+        right(many(6, "(counter ", " 2" + again(4, "(up 1)") + ")") + many(24, "(node ", again(8, "(go 1 a)") + ")"));
+        right(many(6, "(counter ", " 2" + again(4, "(up 0)") + ")")
+                + many(24, "(node ", again(8, "(go 5" + again(1, g) + "x)") + ")"));
+        // As many tokens as there can be bytes (beyond the 512 calls that are promised).
+        at("(@" + again(8191, "("), 2);
+        at(again(8191, " ") + "@)", 2);
+        fault(again(8192, "\n"), 4, 8192);
     }
 
     /** Whatever tokens a text is cut behind, it ends too early, but between counters and nodes. */

@@ -36,7 +36,7 @@ public final class ProgramTest {
                 Build.function(0, 3, 4, 1, "push -2, store 1, load 1, push 7, call 1, host 6, pop, push 1, ifnot 0, "
                         + "load 1, return", Build.handler(1, 6, 9, -3), Build.handler(0, 11, 0)),
                 Build.function(2, 2, 0, 1, "load 0, load 1, guard 14, host 14, return"),
-                Build.function(4, 12, 0x0C04, 2, "load 2, return"));
+                Build.function(4, 12, 0x0C04, 2, "load 2, return", Build.handler(0, 1, 0, 5)));
     }
 
     private static void whatIsRead() {
@@ -154,6 +154,7 @@ public final class ProgramTest {
         fault("TO above", poked(row, at + 3, 0, 3), 3, at + 3);
         fault("TARGET above", poked(row, at + 5, 0, 2), 3, at + 5);
         fault("neither 0 nor 1", poked(row, at + 7, 2), 3, at + 7);
+        fault("neither 0 nor 1 at the end", poked(row, row.length - 1, 2), 3, row.length - 1);
         fault("second FROM", poked(row, at + 12, 255, 1), 3, at + 12);
         fault("any code to 1, then bytes end", poked(row, row.length - 1, 1), 1, row.length);
         fault("six handlers", Build.main("push 1, return", Build.handler(0, 1, 1), Build.handler(0, 1, 1),

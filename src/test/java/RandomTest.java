@@ -93,9 +93,57 @@ public final class RandomTest {
                 forged(y, simple, random);
             }
         }
+        for (int seed = 1; seed <= 300; seed++) {
+            reused(new Random(-seed));
+        }
         check.same("enough policies", policies > 1000, true);
         check.same("enough programs", programs > 500, true);
         check.end();
+    }
+
+    /** An object that has been used answers as a new one does. */
+    private static void reused(Random random) {
+        GuardForge old = new GuardForge();
+        for (int round = 0; round < 4; round++) {
+            GuardForge fresh = new GuardForge();
+            String text = simplePolicy(random).text;
+            byte[] row = randomProgram(random);
+            if (Check.policy(fresh, text) != 0 || Check.program(fresh, row) != 0) {
+                Check.policy(old, text.substring(0, text.length() / 2));
+                Check.program(old, Arrays.copyOf(row, row.length / 2));
+                continue;
+            }
+            check.same("used: loadPolicy", Check.policy(old, text), 0);
+            check.same("used: loadProgram", Check.program(old, row), 0);
+            for (int which = 0; which < 14; which++) {
+                // The written bytes are of earlier rounds.
+                check.same("used: lookAt " + which, old.lookAt(which), which == 10 ? old.lookAt(10) : fresh.lookAt(which));
+            }
+            check.same("used: certifyIt", old.certifyIt(false), fresh.certifyIt(false));
+            check.same("used: forgeIt", old.forgeIt(), fresh.forgeIt());
+            check.same("used: certifyIt forged", old.certifyIt(true), fresh.certifyIt(true));
+            sameCode(old, fresh, random);
+            boolean forged = random.nextBoolean();
+            check.same("used: runIt", old.runIt(forged, 60), fresh.runIt(forged, 60));
+            for (int what = 0; what < 8; what++) {
+                check.same("used: endOf " + what, old.endOf(what), fresh.endOf(what));
+            }
+            check.same("used: counterOf", old.counterOf(0, false), fresh.counterOf(0, false));
+            check.same("used: saveProgram", old.saveProgram(forged), fresh.saveProgram(forged));
+        }
+    }
+
+    private static void sameCode(GuardForge old, GuardForge fresh, Random random) {
+        for (int n = 0; n < 12; n++) {
+            int f = random.nextInt(fresh.lookAt(5));
+            int i = random.nextInt(fresh.functionOf(n % 2 == 0, f, 3));
+            int what = random.nextInt(6);
+            check.same("used: codeOf", old.codeOf(n % 2 == 0, f, i, what), fresh.codeOf(n % 2 == 0, f, i, what));
+            check.same("used: mayOf", old.mayOf(n % 2 == 0, f, i), fresh.mayOf(n % 2 == 0, f, i));
+            int state = random.nextInt(fresh.lookAt(4));
+            int letter = random.nextInt(fresh.lookAt(2));
+            check.same("used: wayOf", old.wayOf(state, letter), fresh.wayOf(state, letter));
+        }
     }
 
     private static int[] guards(Random random, int call, int counters, StringBuilder text) {

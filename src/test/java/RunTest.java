@@ -108,6 +108,7 @@ public final class RunTest {
         value("push 3, new, size, return", 3);
         value("push 0, new, size, return", 0);
         value("push 256, new, size, return", 256);
+        value("push 3, new, pop, push 5, new, size, return", 5);
         value("push 3, new, push 2, get, return", 0);
         value("push 3, new, dup, push 2, push 77, put, push 2, get, return", 77);
         // Two rows are apart, and one row that two locals have is one.
@@ -221,6 +222,8 @@ public final class RunTest {
                 Build.handler(1, 2, 2), Build.handler(4, 5, 5)), 0, 2);
         // A handler whose range has its own target: for ever, as long as there is fuel.
         ends("again and again", Build.main("push 1, throw", Build.handler(0, 2, 1)), 3, 0);
+        // What was on the stack is gone each time, however often it throws.
+        ends("with more and more below", Build.main("push 1, push 2, throw, pop, jump 0", Build.handler(0, 3, 3)), 3, 0);
         GuardForge x = with(Build.main("push 5, push 0, div, return, return", Build.handler(0, 3, 4)));
         x.runIt(false, 100);
         check.same("one that throws is a step", x.endOf(2), 4);

@@ -7,6 +7,7 @@ public final class StatesTest {
     public static void main(String[] args) {
         intervalsOfArguments();
         intervalsOfCounters();
+        sixCounters();
         orderOfLetters();
         whichGuardsCount();
         statesByOrder();
@@ -72,6 +73,15 @@ public final class StatesTest {
             check.same("d of " + l, x.letterOf(l, 5), l % 2 == 0 ? 0 : 8);
             check.same("no counter 2 of " + l, x.letterOf(l, 6), 0);
         }
+    }
+
+    private static void sixCounters() {
+        GuardForge x = with("(counter u 9)(counter v 9)(counter w 9)(counter x 9)(counter y 9)(counter z 9)"
+                + "(node a (go 15 (count u same 9) a) (go 15 (count z more 4) a))");
+        check.same("letters", x.lookAt(2), 15 + 4);
+        starts(x, 15, 4, 0, 0, 9, 9);
+        starts(x, 15, 5, 0, 0, 0, 0);
+        starts(x, 15, 9, 0, 5, 0, 5);
     }
 
     private static void orderOfLetters() {

@@ -172,6 +172,10 @@ public final class VerifyTest {
                 "two handlers that are wrong", 7, 0);
         fault(Build.main("jump 3, push 1, return, push 1, return", Build.handler(3, 4, 3), Build.handler(3, 4, 0)),
                 "the same, the other way", 7, 3);
+        // What is told first is told, whatever else is wrong with those that wait still.
+        fault("load 0, if 5, push 1, jump 0, return, pop, return", 7, 0);
+        fault(Build.main("load 0, if 4, push 1, return, pop, return", Build.handler(2, 3, 0)), "a handler, then a pop", 7, 0);
+        fault("load 0, if 4, push 1, add, pop, return", 5, 3);
         // Its own fault is ahead of its handlers.
         fault(Build.main("pop, return", Build.handler(0, 1, 0)), "an instruction and its handler", 5, 0);
     }
