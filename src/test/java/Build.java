@@ -74,6 +74,11 @@ final class Build {
         return join(new byte[] {71, 70, 1, (byte) functions.length}, join(functions));
     }
 
+    /** One function without a result, and LOCALS 0, an INT, and 1, a ROW. */
+    static byte[] plain(String words, byte[]... handlers) {
+        return program(function(0, 2, 2, 0, words, handlers));
+    }
+
     /** One function that has an int as its result, and LOCALS 0 .. 3 INTS, 4 and 5 ROWS. */
     static byte[] main(String words, byte[]... handlers) {
         return program(function(0, 6, 48, 1, words, handlers));

@@ -53,6 +53,20 @@ final class Check {
         return x.loadProgram();
     }
 
+    /** A new object with this policy. */
+    GuardForge with(String text) {
+        GuardForge x = new GuardForge();
+        same("loadPolicy of " + text, policy(x, text), 0);
+        return x;
+    }
+
+    /** A new object with this policy and this program. */
+    GuardForge with(String text, byte[] row) {
+        GuardForge x = with(text);
+        same("loadProgram", program(x, row), 0);
+        return x;
+    }
+
     void policyFault(GuardForge x, String text, int fault, int place) {
         String shown = text.length() > 70 ? text.substring(0, 70) + ".." : text;
         same("loadPolicy of " + shown, policy(x, text), fault);

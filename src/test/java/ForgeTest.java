@@ -15,17 +15,6 @@ public final class ForgeTest {
         check.end();
     }
 
-    private static GuardForge with(String text, byte[] row) {
-        GuardForge x = new GuardForge();
-        check.same("loadPolicy of " + text, Check.policy(x, text), 0);
-        check.same("loadProgram", Check.program(x, row), 0);
-        return x;
-    }
-
-    private static byte[] plain(String words, byte[]... handlers) {
-        return Build.program(Build.function(0, 2, 2, 0, words, handlers));
-    }
-
     /** What was forged is just the program that is made of these bytes. */
     private static void forged(GuardForge x, byte[] due) {
         check.same("saveProgram(true)", x.saveProgram(true), due.length);
@@ -39,9 +28,9 @@ public final class ForgeTest {
         GuardForge x = new GuardForge();
         check.same("no program", x.forgeIt(), -1);
         check.same("nothing forged", x.lookAt(7), -1);
-        x = with(RULED, plain("guard 0, host 0, return"));
+        x = check.with(RULED, Build.plain("guard 0, host 0, return"));
         check.same("it has a guard", x.forgeIt(), -1);
-        x = with(RULED, plain("return, guard 0"));
+        x = check.with(RULED, Build.plain("return, guard 0"));
         check.same("it has a guard that is never come to", x.forgeIt(), -1);
         check.same("nothing forged", x.lookAt(7), -1);
         check.same("nothing to certify", x.certifyIt(true), -1);
@@ -49,27 +38,27 @@ public final class ForgeTest {
     }
 
     private static void plainCode() {
-        GuardForge x = with(RULED, plain("host 0, push 1, host 1, push 3, host 2, return"));
+        GuardForge x = check.with(RULED, Build.plain("host 0, push 1, host 1, push 3, host 2, return"));
         check.same("guards", x.forgeIt(), 2);
         check.same("instructions of it", x.lookAt(7), 8);
         check.same("the program stays", x.lookAt(6), 6);
-        forged(x, plain("guard 0, host 0, push 1, guard 1, host 1, push 3, host 2, return"));
+        forged(x, Build.plain("guard 0, host 0, push 1, guard 1, host 1, push 3, host 2, return"));
         check.same("the program is not certified", x.certifyIt(false), 1);
         check.same("depth ahead of the second guard", x.codeOf(true, 0, 3, 2), 2);
         check.same("guarded", x.codeOf(true, 0, 4, 4), 1);
         check.same("needs", x.codeOf(true, 0, 4, 5), 1);
         check.same("functionOf", x.functionOf(true, 0, 3), 8);
-        x = with("(node a (go any a))", plain("host 0, return"));
+        x = check.with("(node a (go any a))", Build.plain("host 0, return"));
         check.same("no guards", x.forgeIt(), 0);
-        forged(x, plain("host 0, return"));
-        x = with(RULED, Build.program(Build.function(0, 1, 1, 1, "push 3, load 0, call 1, size, return"),
+        forged(x, Build.plain("host 0, return"));
+        x = check.with(RULED, Build.program(Build.function(0, 1, 1, 1, "push 3, load 0, call 1, size, return"),
                 Build.function(2, 5, 10, 2, "load 0, host 1, pop, load 1, return")));
         check.same("a function with parameters", x.forgeIt(), 1);
         forged(x, Build.program(Build.function(0, 1, 1, 1, "push 3, load 0, call 1, size, return"),
                 Build.function(2, 5, 10, 2, "load 0, guard 1, host 1, pop, load 1, return")));
         check.same("it runs", x.runIt(true, 100), 0);
         check.same("its call", x.traceAt(0, 1), 3);
-        x = with(RULED, Build.program(Build.function(0, 0, 0, 0, "call 1, return, host 0"),
+        x = check.with(RULED, Build.program(Build.function(0, 0, 0, 0, "call 1, return, host 0"),
                 Build.function(0, 1, 1, 2, "host 0, pop, load 0, return")));
         check.same("in all functions, come to or not", x.forgeIt(), 2);
         forged(x, Build.program(Build.function(0, 0, 0, 0, "call 1, return, guard 0, host 0"),
@@ -78,9 +67,9 @@ public final class ForgeTest {
 
     private static void whereItHasTo() {
         // Behind call 0 there is a state in which 4 can be, and 0 no more.
-        GuardForge x = with("(node a (go 0 b)) (node b (go 4 b))", plain("host 0, host 4, host 4, host 0, return, host 0"));
+        GuardForge x = check.with("(node a (go 0 b)) (node b (go 4 b))", Build.plain("host 0, host 4, host 4, host 0, return, host 0"));
         check.same("guards", x.forgeIt(), 2);
-        forged(x, plain("guard 0, host 0, host 4, host 4, guard 0, host 0, return, host 0"));
+        forged(x, Build.plain("guard 0, host 0, host 4, host 4, guard 0, host 0, return, host 0"));
         check.same("may of the forged", x.mayOf(true, 0, 0), 1);
         check.same("may behind the guard", x.mayOf(true, 0, 1), 2);
         check.same("may behind the host", x.mayOf(true, 0, 2), 2);
@@ -88,33 +77,33 @@ public final class ForgeTest {
     }
 
     private static void moved() {
-        GuardForge x = with(RULED, plain("host 0, if 0, host 0, ifnot 5, jump 2, host 0, pop, jump 7"));
+        GuardForge x = check.with(RULED, Build.plain("host 0, if 0, host 0, ifnot 5, jump 2, host 0, pop, jump 7"));
         check.same("guards", x.forgeIt(), 3);
         // Jumps to a HOST go to its guard.
-        forged(x, plain("guard 0, host 0, if 0, guard 0, host 0, ifnot 7, jump 3, guard 0, host 0, pop, jump 10"));
+        forged(x, Build.plain("guard 0, host 0, if 0, guard 0, host 0, ifnot 7, jump 3, guard 0, host 0, pop, jump 10"));
     }
 
     private static void handlersMoved() {
-        byte[] row = plain("push 1, host 1, host 1, pop, push 1, throw, host 1, return",
+        byte[] row = Build.plain("push 1, host 1, host 1, pop, push 1, throw, host 1, return",
                 Build.handler(1, 2, 6), Build.handler(2, 6, 7, -1), Build.handler(0, 8, 6), Build.handler(3, 6, 3, 2));
-        GuardForge x = with(RULED, row);
+        GuardForge x = check.with(RULED, row);
         check.same("guards", x.forgeIt(), 3);
-        forged(x, plain("push 1, guard 1, host 1, guard 1, host 1, pop, push 1, throw, guard 1, host 1, return",
+        forged(x, Build.plain("push 1, guard 1, host 1, guard 1, host 1, pop, push 1, throw, guard 1, host 1, return",
                 Build.handler(1, 3, 8), Build.handler(3, 8, 10, -1), Build.handler(0, 11, 8), Build.handler(5, 8, 5, 2)));
         check.same("handlers", x.functionOf(true, 0, 4), 4);
     }
 
     private static void noRoom() {
-        GuardForge x = with(RULED, plain("push 1, " + Build.times(199, "host 1", "return")));
+        GuardForge x = check.with(RULED, Build.plain("push 1, " + Build.times(199, "host 1", "return")));
         check.same("201 and 199 guards", x.forgeIt(), 199);
         check.same("400 instructions", x.lookAt(7), 400);
-        check.same("load", Check.program(x, plain("push 1, " + Build.times(199, "host 1", "pop, return"))), 0);
+        check.same("load", Check.program(x, Build.plain("push 1, " + Build.times(199, "host 1", "pop, return"))), 0);
         check.same("401 instructions", x.forgeIt(), -2);
         check.same("nothing forged", x.lookAt(7), -1);
-        check.same("load", Check.program(x, plain(Build.times(199, "push 1, pop", "push 1, return"))), 0);
+        check.same("load", Check.program(x, Build.plain(Build.times(199, "push 1, pop", "push 1, return"))), 0);
         check.same("400 instructions that need none", x.forgeIt(), 0);
         check.same("400 instructions", x.lookAt(7), 400);
-        check.same("load", Check.program(x, plain(Build.times(198, "push 1, pop", "host 0, pop, push 1, return"))), 0);
+        check.same("load", Check.program(x, Build.plain(Build.times(198, "push 1, pop", "host 0, pop, push 1, return"))), 0);
         check.same("400 instructions that need one", x.forgeIt(), -2);
         check.same("nothing forged", x.lookAt(7), -1);
         // Twelve functions that grow to more than 8192 bytes together.
@@ -145,8 +134,8 @@ public final class ForgeTest {
     }
 
     private static void bytesOfIt() {
-        byte[] row = plain("host 0, if 0, push 3, new, store 1, return, pop, return", Build.handler(3, 4, 6));
-        GuardForge x = with(RULED, row);
+        byte[] row = Build.plain("host 0, if 0, push 3, new, store 1, return, pop, return", Build.handler(3, 4, 6));
+        GuardForge x = check.with(RULED, row);
         check.same("forge", x.forgeIt(), 1);
         int n = x.saveProgram(true);
         check.same("two bytes more", n, row.length + 2);
@@ -159,7 +148,7 @@ public final class ForgeTest {
     }
 
     private static void again() {
-        GuardForge x = with(RULED, plain("host 0, host 4, return"));
+        GuardForge x = check.with(RULED, Build.plain("host 0, host 4, return"));
         check.same("forge", x.forgeIt(), 1);
         check.same("forge again", x.forgeIt(), 1);
         check.same("instructions", x.lookAt(7), 4);

@@ -12,14 +12,8 @@ public final class WatchTest {
         check.end();
     }
 
-    private static GuardForge with(String text) {
-        GuardForge x = new GuardForge();
-        check.same("loadPolicy of " + text, Check.policy(x, text), 0);
-        return x;
-    }
-
     private static void stepping() {
-        GuardForge x = with("(counter c 2 (up 1) (zero 2)) (node a (go 1 b)) (node b (go 1 (count c less 2) b) (go 2 a))");
+        GuardForge x = check.with("(counter c 2 (up 1) (zero 2)) (node a (go 1 b)) (node b (go 1 (count c less 2) b) (go 2 a))");
         check.same("at first", x.lookAt(13), 0);
         check.same("a by 1", x.watchCall(1, 9, 0, 0), 1);
         check.same("c", x.counterOf(0, true), 1);
@@ -36,7 +30,7 @@ public final class WatchTest {
     }
 
     private static void firstRuleIsDone() {
-        GuardForge x = with("(counter c 15 (zero 1 (arg 0 same 7)) (up any (arg 0 more 0)) (zero 1)) "
+        GuardForge x = check.with("(counter c 15 (zero 1 (arg 0 same 7)) (up any (arg 0 more 0)) (zero 1)) "
                 + "(counter d 2 (up any)) (node a (go any a))");
         int[][] due = {{1, 1, 1}, {5, 2, 2}, {9, 3, 2}, {7, 0, 2}, {8, 1, 2}, {0, 0, 2}};
         for (int[] row : due) {
@@ -56,7 +50,7 @@ public final class WatchTest {
 
     private static void countersAheadOfTheCall() {
         // d looks at c as it is ahead of the call, and c at d.
-        GuardForge x = with("(counter c 5 (up 0 (count d same 0)) (zero 0)) (counter d 5 (up 0 (count c same 1)) "
+        GuardForge x = check.with("(counter c 5 (up 0 (count d same 0)) (zero 0)) (counter d 5 (up 0 (count c same 1)) "
                 + "(zero 0)) (node a (go any a))");
         int[][] due = {{1, 0}, {2, 1}, {0, 0}, {1, 0}, {2, 1}, {0, 0}};
         for (int k = 0; k < due.length; k++) {
@@ -65,7 +59,7 @@ public final class WatchTest {
             check.same("d behind " + k, x.counterOf(1, true), due[k][1]);
         }
         // A way looks at them ahead of the call, too.
-        x = with("(counter c 5 (up 0)) (node a (go 0 (count c less 2) a))");
+        x = check.with("(counter c 5 (up 0)) (node a (go 0 (count c less 2) a))");
         check.same("c 0", x.watchCall(0, 0, 0, 0), 0);
         check.same("c 1", x.watchCall(0, 0, 0, 0), 0);
         check.same("c 2", x.watchCall(0, 0, 0, 0), -1);
@@ -73,7 +67,7 @@ public final class WatchTest {
     }
 
     private static void argumentsThatACallHas() {
-        GuardForge x = with("(node a (go 7 (arg 0 less 0) (arg 1 same 0) (arg 2 more 0) b) (go 6 (arg 1 same 5) a)) "
+        GuardForge x = check.with("(node a (go 7 (arg 0 less 0) (arg 1 same 0) (arg 2 more 0) b) (go 6 (arg 1 same 5) a)) "
                 + "(node b (go 0 a))");
         check.same("not below 0", x.watchCall(7, 0, 0, 1), -1);
         check.same("not 0", x.watchCall(7, -1, 1, 1), -1);
@@ -85,7 +79,7 @@ public final class WatchTest {
     }
 
     private static void wrongNumbers() {
-        GuardForge x = with("(counter c 3 (up any)) (node a (go any a))");
+        GuardForge x = check.with("(counter c 3 (up any)) (node a (go any a))");
         for (int number : new int[] {-1, 16, 17, Integer.MIN_VALUE, Integer.MAX_VALUE}) {
             check.same("watchCall " + number, x.watchCall(number, 0, 0, 0), -1);
         }
@@ -99,7 +93,7 @@ public final class WatchTest {
 
     private static void whatResetsIt() {
         String text = "(counter c 3 (up any)) (node a (go 0 b)) (node b (go 0 c)) (node c)";
-        GuardForge x = with(text);
+        GuardForge x = check.with(text);
         x.watchCall(0, 0, 0, 0);
         check.same("state", x.lookAt(13), 1);
         check.same("program", Check.program(x, Build.main("host 0, host 0, return")), 0);
