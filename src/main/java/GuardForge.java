@@ -748,14 +748,14 @@ public final class GuardForge {
             return refuseLate(5, guardPlace[guard]);
         }
 
-        private boolean findTarget(int way) {
+        private void findTarget(int way) {
             for (int n = 0; n < policy.nodes; n++) {
                 if (nodeNames[n] == targetName[way]) {
                     policy.clauseTo[way] = n;
-                    return true;
+                    return;
                 }
             }
-            return refuseLate(5, targetPlace[way]);
+            refuseLate(5, targetPlace[way]);
         }
     }
 
@@ -791,14 +791,11 @@ public final class GuardForge {
         /** Of call c: the states that every letter of c leads back to themselves. */
         final long[] stays = new long[CALLS];
 
-        /** (node a (go any a)), which has one state, and one letter a call. */
+        /** (node a (go any a)): one state and one letter a call; its way is in the table alone. */
         Policy() {
             nodes = 1;
             sets = 1;
             states = 1;
-            clauses = 1;
-            clauseFrom[1] = 1;
-            clauseCall[0] = ANY_CALL;
             for (int c = 0; c < CALLS; c++) {
                 reach[c * MOST_SETS] = 1;
                 stays[c] = 1;
@@ -1355,7 +1352,6 @@ public final class GuardForge {
         int read(byte[] from, int length, Program into) {
             bytes = from;
             count = length;
-            at = 0;
             fault = 0;
             faultPlace = NONE;
             program = into;

@@ -131,6 +131,17 @@ public final class ForgeTest {
                 "push 1, push 1, push 1, push 1, push 1, pop, pop, return"));
         check.same("load", Check.program(x, Build.program(functions)), 0);
         check.same("one byte too many", x.forgeIt(), -2);
+        // 26 bytes are also a handler for any code, one for a code, push, pop, dup and pop.
+        functions[11] = Build.function(0, 0, 0, 0, "push 1, " + Build.times(166, "host 1", "push 1, pop, dup, pop, return"),
+                Build.handler(0, 1, 1), Build.handler(0, 1, 1, 9));
+        check.same("load", Check.program(x, Build.program(functions)), 0);
+        check.same("with handlers it just fits", x.forgeIt(), 6 * 167 + 6 * 166);
+        check.same("8192 bytes with handlers", x.saveProgram(true), 8192);
+        functions[11] = Build.function(0, 0, 0, 0, "push 1, " + Build.times(166, "host 1", "push 1, pop, dup, pop, dup, return"),
+                Build.handler(0, 1, 1), Build.handler(0, 1, 1, 9));
+        check.same("load", Check.program(x, Build.program(functions)), 0);
+        check.same("with handlers one byte too many", x.forgeIt(), -2);
+        check.same("nothing forged", x.lookAt(7), -1);
     }
 
     private static void bytesOfIt() {
@@ -155,6 +166,17 @@ public final class ForgeTest {
         check.same("run", x.runIt(true, 10), 0);
         check.same("forge a third time", x.forgeIt(), 1);
         check.same("the run stays", x.endOf(2), 3);
+        check.same("may behind the guard", x.mayOf(true, 0, 1), 1);
+        // What was known of programs that are gone is not taken for what is forged.
+        check.same("fork", Check.policy(x, "(node a (go 0 b) (go 4 c)) (node b (go 8 b)) (node c (go 12 c))"), 0);
+        for (int n = 0; n < 6; n++) {
+            int call = n % 2 * 4;
+            check.same("load", Check.program(x, Build.plain("host " + call + ", return")), 0);
+            check.same("may", x.mayOf(false, 0, 1), n % 2 == 0 ? 2 : 4);
+            check.same("forge", x.forgeIt(), 1);
+            check.same("may of what is forged", x.mayOf(true, 0, 2), n % 2 == 0 ? 2 : 4);
+        }
+        check.same("load", Check.program(x, Build.plain("host 0, host 4, return")), 0);
         check.same("another policy", Check.policy(x, "(counter c 1 (up any)) (node a (go any a))"), 0);
         check.same("nothing is forged", x.lookAt(7), -1);
         check.same("forge by that", x.forgeIt(), 2);

@@ -31,7 +31,12 @@ public final class MayTest {
     }
 
     private static void straight() {
-        GuardForge x = check.with(ROUND, Build.plain("host 0, host 4, host 0, host 0, return"));
+        GuardForge x = new GuardForge();
+        check.same("loadProgram by the first policy", Check.program(x, Build.plain("host 0, host 7, return")), 5);
+        check.same("loadProgram by the first policy", Check.program(x, Build.plain("host 0, host 1, return")), 0);
+        may(x, 0, 1, 1, 1);
+        check.same("needs nothing", x.certifyIt(false), 0);
+        x = check.with(ROUND, Build.plain("host 0, host 4, host 0, host 0, return"));
         check.same("states", x.lookAt(4), 3);
         may(x, 0, 1, 2, 2, 4, 1);
         x = check.with(ROUND, Build.plain("guard 0, host 0, guard 0, host 4, return"));

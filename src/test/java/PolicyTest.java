@@ -229,6 +229,13 @@ public final class PolicyTest {
         at("(node a (go 1 (arg @2 less 1) (count c less 1) a))", 6);
         at("(node a (go 1 b)) (node c @d)", 2);
         right("(counter c 1 (up any (arg 2 less 1)))(node a (go any (arg 2 same 1) a))");
+        at(many(6, "(counter ", " 2)") + "(node a (go 1 (count @g less 1) a))", 5);
+        at(many(23, "(node ", ")") + "(node x (go 1 @y))", 5);
+        // Names of a text that was read before are gone.
+        GuardForge x = new GuardForge();
+        check.policyFault(x, "(counter u 1)(counter v 1)(node a)(node b)", 0, -1);
+        check.policyFault(x, "(counter u 1)(node a (go 0 (count v less 1) a))", 5, 34);
+        check.policyFault(x, "(counter u 1)(node a (go 0 b))", 5, 27);
     }
 
     /** Nodes whose ways have so many "same" guards, at even numbers, two intervals more each. */

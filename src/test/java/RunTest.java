@@ -159,6 +159,9 @@ public final class RunTest {
         ends("locals are 0 in each call", Build.program(
                 Build.function(0, 0, 0, 1, "call 1, call 1, add, return"),
                 Build.function(0, 1, 0, 1, "load 0, push 9, store 0, return")), 0, 0);
+        ends("also where the stack had something", Build.program(
+                Build.function(0, 0, 0, 1, "push 1, push 9, pop, call 1, return"),
+                Build.function(1, 2, 0, 1, "load 1, return")), 0, 0);
         ends("a row goes in and comes out", Build.program(
                 Build.function(0, 1, 1, 1, "push 2, new, dup, store 0, call 1, push 1, get, load 0, push 1, get, add, return"),
                 Build.function(1, 1, 1, 2, "load 0, push 1, push 21, put, load 0, return")), 0, 42);

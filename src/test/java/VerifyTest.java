@@ -200,6 +200,10 @@ public final class VerifyTest {
         right("jump 2, pop, push 1, return");
         fault(Build.main("push 1, return, pop, pop", Build.handler(2, 4, 0)), "a handler of what is never come to", 0, -1);
         GuardForge x = new GuardForge();
+        for (int n = 0; n < 3; n++) {
+            check.same("load", Check.program(x, Build.main("load 4, load 4, size, return")), 0);
+            check.same("two rows", x.codeOf(false, 0, 2, 3), 3);
+        }
         check.same("load", Check.program(x, Build.main("push 1, return, host 3, return")), 0);
         check.same("depth", x.codeOf(false, 0, 2, 2), -1);
         check.same("rows", x.codeOf(false, 0, 2, 3), 0);
