@@ -57,6 +57,15 @@ final class Build {
         return all + last;
     }
 
+    /** As many texts as said, each with another letter in the middle, from a on. */
+    static String named(int n, String before, String after) {
+        StringBuilder all = new StringBuilder();
+        for (int k = 0; k < n; k++) {
+            all.append(before).append((char) ('a' + k)).append(after);
+        }
+        return all.toString();
+    }
+
     static byte[] handler(int from, int to, int target) {
         return join(number(from, 2), number(to, 2), number(target, 2), number(0, 1));
     }

@@ -74,6 +74,26 @@ final class Check {
         same("lookAt(12) behind " + shown, x.lookAt(12), place);
     }
 
+    /** A text that is right, on a new object, which it leaves. */
+    GuardForge rightText(String text) {
+        GuardForge x = new GuardForge();
+        policyFault(x, text, 0, -1);
+        return x;
+    }
+
+    /** A text with a fault, on a new object, which has its first policy still. */
+    void wrongText(String text, int fault, int place) {
+        GuardForge x = new GuardForge();
+        policyFault(x, text, fault, place);
+        same("nodes stay behind " + text, x.lookAt(1), 1);
+        same("letters stay behind " + text, x.lookAt(2), 16);
+    }
+
+    /** A fault whose place is where @ stands in the text. */
+    void wrongAt(String text, int fault) {
+        wrongText(text.replace("@", ""), fault, text.indexOf('@'));
+    }
+
     void programFault(GuardForge x, String name, byte[] row, int fault, int place) {
         same("loadProgram of " + name, program(x, row), fault);
         same("lookAt(11) behind " + name, x.lookAt(11), fault);

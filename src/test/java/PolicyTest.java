@@ -17,19 +17,15 @@ public final class PolicyTest {
     }
 
     private static void right(String text) {
-        check.policyFault(new GuardForge(), text, 0, -1);
+        check.rightText(text);
     }
 
     private static void fault(String text, int fault, int place) {
-        GuardForge x = new GuardForge();
-        check.policyFault(x, text, fault, place);
-        check.same("nodes stay behind " + text, x.lookAt(1), 1);
-        check.same("letters stay behind " + text, x.lookAt(2), 16);
+        check.wrongText(text, fault, place);
     }
 
-    /** A fault whose place is where @ stands in the text. */
     private static void at(String text, int fault) {
-        fault(text.replace("@", ""), fault, text.indexOf('@'));
+        check.wrongAt(text, fault);
     }
 
     private static void rightTexts() {
@@ -141,51 +137,35 @@ public final class PolicyTest {
         right("(counter a 2)(counter b 2)(node b)(node a)");
     }
 
-    private static String many(int n, String before, String after) {
-        StringBuilder all = new StringBuilder();
-        for (int k = 0; k < n; k++) {
-            all.append(before).append((char) ('a' + k)).append(after);
-        }
-        return all.toString();
-    }
-
-    private static String again(int n, String text) {
-        StringBuilder all = new StringBuilder();
-        for (int k = 0; k < n; k++) {
-            all.append(text);
-        }
-        return all.toString();
-    }
-
     private static void limits() {
-        right(many(6, "(counter ", " 2)") + "(node a)");
-        at(many(6, "(counter ", " 2)") + "(@counter g 2)(node a)", 2);
-        right(many(24, "(node ", ")"));
-        at(many(24, "(node ", ")") + "@(node y)", 2);
-        at(many(24, "(node ", ")") + "@(", 2);
-        at(many(24, "(node ", ")") + "@(counter c 3)", 2);
-        at(many(24, "(node ", ")") + "@)", 2);
-        at(many(24, "(node ", ")") + "@+", 1);
-        right("(counter c 1" + again(4, "(up 1)") + ")(node a)");
-        at("(counter c 1" + again(4, "(up 1)") + "@(zero 1))(node a)", 2);
-        at("(counter c 1" + again(4, "(up 1)") + "@(x", 2);
-        right("(node a" + again(8, "(go 1 a)") + ")");
-        at("(node a" + again(8, "(go 1 a)") + "@(go 1 a))", 2);
-        at("(node a" + again(8, "(go 1 a)") + "@(", 2);
+        right(Build.named(6, "(counter ", " 2)") + "(node a)");
+        at(Build.named(6, "(counter ", " 2)") + "(@counter g 2)(node a)", 2);
+        right(Build.named(24, "(node ", ")"));
+        at(Build.named(24, "(node ", ")") + "@(node y)", 2);
+        at(Build.named(24, "(node ", ")") + "@(", 2);
+        at(Build.named(24, "(node ", ")") + "@(counter c 3)", 2);
+        at(Build.named(24, "(node ", ")") + "@)", 2);
+        at(Build.named(24, "(node ", ")") + "@+", 1);
+        right("(counter c 1" + "(up 1)".repeat(4) + ")(node a)");
+        at("(counter c 1" + "(up 1)".repeat(4) + "@(zero 1))(node a)", 2);
+        at("(counter c 1" + "(up 1)".repeat(4) + "@(x", 2);
+        right("(node a" + "(go 1 a)".repeat(8) + ")");
+        at("(node a" + "(go 1 a)".repeat(8) + "@(go 1 a))", 2);
+        at("(node a" + "(go 1 a)".repeat(8) + "@(", 2);
         String g = "(arg 0 less 1)";
-        right("(node a (go 1 " + again(4, g) + "a))");
-        at("(node a (go 1 " + again(4, g) + "@" + g + "a))", 2);
-        right("(counter c 1 (up 1 " + again(4, g) + "))(node a)");
-        at("(counter c 1 (up 1 " + again(4, g) + "@" + g + "))(node a)", 2);
-        at("(node a (go 1 " + again(4, g) + "@(", 2);
-        right("(node a (go 1 " + again(300, "(not ") + g + again(300, ")") + " a))");
-        right(many(6, "(counter ", " 2" + again(4, "(up 1)") + ")") + many(24, "(node ", again(8, "(go 1 a)") + ")"));
-        right(many(6, "(counter ", " 2" + again(4, "(up 0)") + ")")
-                + many(24, "(node ", again(8, "(go 5" + again(1, g) + "x)") + ")"));
+        right("(node a (go 1 " + g.repeat(4) + "a))");
+        at("(node a (go 1 " + g.repeat(4) + "@" + g + "a))", 2);
+        right("(counter c 1 (up 1 " + g.repeat(4) + "))(node a)");
+        at("(counter c 1 (up 1 " + g.repeat(4) + "@" + g + "))(node a)", 2);
+        at("(node a (go 1 " + g.repeat(4) + "@(", 2);
+        right("(node a (go 1 " + "(not ".repeat(300) + g + ")".repeat(300) + " a))");
+        right(Build.named(6, "(counter ", " 2" + "(up 1)".repeat(4) + ")") + Build.named(24, "(node ", "(go 1 a)".repeat(8) + ")"));
+        right(Build.named(6, "(counter ", " 2" + "(up 0)".repeat(4) + ")")
+                + Build.named(24, "(node ", ("(go 5" + g + "x)").repeat(8) + ")"));
         // As many tokens as there can be bytes (beyond the 512 calls that are promised).
-        at("(@" + again(8191, "("), 2);
-        at(again(8191, " ") + "@)", 2);
-        fault(again(8192, "\n"), 4, 8192);
+        at("(@" + "(".repeat(8191), 2);
+        at(" ".repeat(8191) + "@)", 2);
+        fault("\n".repeat(8192), 4, 8192);
     }
 
     /** Whatever tokens a text is cut behind, it ends too early, but between counters and nodes. */
@@ -229,8 +209,8 @@ public final class PolicyTest {
         at("(node a (go 1 (arg @2 less 1) (count c less 1) a))", 6);
         at("(node a (go 1 b)) (node c @d)", 2);
         right("(counter c 1 (up any (arg 2 less 1)))(node a (go any (arg 2 same 1) a))");
-        at(many(6, "(counter ", " 2)") + "(node a (go 1 (count @g less 1) a))", 5);
-        at(many(23, "(node ", ")") + "(node x (go 1 @y))", 5);
+        at(Build.named(6, "(counter ", " 2)") + "(node a (go 1 (count @g less 1) a))", 5);
+        at(Build.named(23, "(node ", ")") + "(node x (go 1 @y))", 5);
         // Names of a text that was read before are gone.
         GuardForge x = new GuardForge();
         check.policyFault(x, "(counter u 1)(counter v 1)(node a)(node b)", 0, -1);
