@@ -1,4 +1,4 @@
-/** Promise 6: texts of policies, their faults and the places of these. */
+/** Promise 6: texts of policies, their faults and the places of these; TextEdgesTest has the boundary cases. */
 public final class PolicyTest {
     private static final Check check = new Check("PolicyTest");
 
@@ -6,9 +6,7 @@ public final class PolicyTest {
         rightTexts();
         tokens();
         wrongTokens();
-        limits();
-        textEnds();
-        noNode();
+        longTexts();
         namesAndArguments();
         tooManyLetters();
         tooManySets();
@@ -113,52 +111,10 @@ public final class PolicyTest {
         at("(counter c 3 (up @16))", 2);
         at("(counter c 3 (up 1 @c))", 2);
         at("(counter c 3 @c)", 2);
-        words();
-        twice();
     }
 
-    /** Words of the text's own are no names. */
-    private static void words() {
-        String[] own = {"counter", "node", "up", "zero", "go", "arg", "count", "not", "any", "less", "same", "more"};
-        for (String word : own) {
-            at("(node @" + word + ")", 2);
-            at("(counter @" + word + " 1)", 2);
-            at("(node a (go 1 @" + word + "))", 2);
-            at("(node a (go 1 (count @" + word + " less 1) a))", 2);
-            right("(node " + word + "s)");
-        }
-    }
-
-    private static void twice() {
-        at("(node a)(node @a)", 2);
-        at("(node a)(node b)(node c (go 1 a))(node @b)", 2);
-        at("(counter c 2)(counter @c 3)(node a)", 2);
-        at("(node a)(@counter c 3)", 2);
-        right("(counter a 2)(counter b 2)(node b)(node a)");
-    }
-
-    private static void limits() {
-        right(Build.named(6, "(counter ", " 2)") + "(node a)");
-        at(Build.named(6, "(counter ", " 2)") + "(@counter g 2)(node a)", 2);
-        right(Build.named(24, "(node ", ")"));
-        at(Build.named(24, "(node ", ")") + "@(node y)", 2);
-        at(Build.named(24, "(node ", ")") + "@(", 2);
-        at(Build.named(24, "(node ", ")") + "@(counter c 3)", 2);
-        at(Build.named(24, "(node ", ")") + "@)", 2);
-        at(Build.named(24, "(node ", ")") + "@+", 1);
-        right("(counter c 1" + "(up 1)".repeat(4) + ")(node a)");
-        at("(counter c 1" + "(up 1)".repeat(4) + "@(zero 1))(node a)", 2);
-        at("(counter c 1" + "(up 1)".repeat(4) + "@(x", 2);
-        right("(node a" + "(go 1 a)".repeat(8) + ")");
-        at("(node a" + "(go 1 a)".repeat(8) + "@(go 1 a))", 2);
-        at("(node a" + "(go 1 a)".repeat(8) + "@(", 2);
+    private static void longTexts() {
         String g = "(arg 0 less 1)";
-        right("(node a (go 1 " + g.repeat(4) + "a))");
-        at("(node a (go 1 " + g.repeat(4) + "@" + g + "a))", 2);
-        right("(counter c 1 (up 1 " + g.repeat(4) + "))(node a)");
-        at("(counter c 1 (up 1 " + g.repeat(4) + "@" + g + "))(node a)", 2);
-        at("(node a (go 1 " + g.repeat(4) + "@(", 2);
-        right("(node a (go 1 " + "(not ".repeat(300) + g + ")".repeat(300) + " a))");
         right(Build.named(6, "(counter ", " 2" + "(up 1)".repeat(4) + ")") + Build.named(24, "(node ", "(go 1 a)".repeat(8) + ")"));
         right(Build.named(6, "(counter ", " 2" + "(up 0)".repeat(4) + ")")
                 + Build.named(24, "(node ", ("(go 5" + g + "x)").repeat(8) + ")"));
@@ -166,31 +122,6 @@ public final class PolicyTest {
         at("(@" + "(".repeat(8191), 2);
         at(" ".repeat(8191) + "@)", 2);
         fault("\n".repeat(8192), 4, 8192);
-    }
-
-    /** Whatever tokens a text is cut behind, it ends too early, but between counters and nodes. */
-    private static void textEnds() {
-        String[] tokens = ("( counter c 3 ( up 1 ( count c less 2 ) ) ( zero any ) ) "
-                + "( node a ( go 1 ( not ( arg 0 same 1 ) ) a ) )").split(" ");
-        StringBuilder text = new StringBuilder();
-        int open = 0;
-        for (int n = 0; n < tokens.length - 1; n++) {
-            text.append(tokens[n]).append(' ');
-            open += tokens[n].equals("(") ? 1 : tokens[n].equals(")") ? -1 : 0;
-            fault(text.toString(), open > 0 ? 3 : 4, text.length());
-        }
-        fault("(", 3, 1);
-        fault("(node", 3, 5);
-        fault("(node a", 3, 7);
-        fault("(node a \n ", 3, 10);
-        at("(node a (go 1 (not (arg 0 less 1) @a", 2);
-    }
-
-    private static void noNode() {
-        fault("", 4, 0);
-        fault("  \n ", 4, 4);
-        fault("(counter c 1)", 4, 13);
-        fault("(counter c 1 (up 1 (count d less 1))) ", 4, 38);
     }
 
     private static void namesAndArguments() {
