@@ -34,6 +34,7 @@ public final class GuardEdgesTest {
         firstThatKeepsItFromThat();
         noneToForge();
         forgeMovesAll();
+        forgeMovesMost();
         fourHundredInstructions();
         bytesOfWhatIsForged();
         usedBefore();
@@ -233,6 +234,11 @@ public final class GuardEdgesTest {
                 Build.function(0, 0, 0, 0, "return, call 2, return"), Build.function(0, 0, 0, 0, "host 0, return")));
         may(x, 0, 1, 1, 1);
         may(x, 2, 0, 0);
+        // A state in which nothing of it ever is, is not in ALL.
+        x = check.with(ROW, Build.program(Build.function(0, 0, 0, 0, "host 0, pop, call 1, return, return", Build.handler(2, 3, 4)),
+                RETURN));
+        may(x, 0, 1, 2, 2, 2, 2);
+        may(x, 1, 2);
         // What comes to be in ALL only later reaches the handler, too: the call goes round.
         x = check.with(ROW, Build.program(Build.function(0, 0, 0, 0, "call 1, return, return", Build.handler(0, 1, 2)),
                 Build.function(0, 0, 0, 0, "host 0, if 3, return, call 1, return")));
@@ -469,6 +475,34 @@ public final class GuardEdgesTest {
         sameBytes(x, Build.program(Build.function(0, 0, 0, 0, "push 1, guard 1, host 1, return", Build.handler(0, 1, 1))));
     }
 
+    /** "jumps, TARGETS, FROM and TO": as many as there can be, in the last function, too */
+    private static void forgeMovesMost() {
+        byte[][] functions = new byte[12][];
+        byte[][] due = new byte[12][];
+        for (int f = 0; f < 12; f++) {
+            byte[][] handlers = new byte[6][];
+            byte[][] moved = new byte[6][];
+            for (int h = 0; h < 6; h++) {
+                handlers[h] = h % 2 == 0 ? Build.handler(h / 2, 3, 2) : Build.handler(1, 2 + h / 5, 2, f + h);
+                moved[h] = h % 2 == 0 ? Build.handler(h == 0 ? 0 : h / 2 + 1, 4, 3) : Build.handler(2, 3 + h / 5, 3, f + h);
+            }
+            functions[f] = Build.function(0, 0, 0, 1, "host 0, jump 2, return", handlers);
+            due[f] = Build.function(0, 0, 0, 1, "guard 0, host 0, jump 3, return", moved);
+        }
+        GuardForge x = check.with(RULED, Build.program(functions));
+        check.same("forge", x.forgeIt(), 12);
+        byte[] row = Build.program(due);
+        check.same("saved", x.saveProgram(true), row.length);
+        // An object has not calls enough for all of them.
+        for (int k = row.length % 3; k < row.length; k += 3) {
+            check.same("byte " + k, x.byteOf(k, false), row[k] & 255);
+        }
+        x.turnBytes();
+        check.same("load", x.loadProgram(), 0);
+        check.same("certified", x.certifyIt(false), 0);
+        check.same("handlers of the last", x.functionOf(false, 11, 4), 6);
+    }
+
     private static void sameBytes(GuardForge x, byte[] due) {
         check.same("saved", x.saveProgram(true), due.length);
         for (int k = 0; k < due.length; k++) {
@@ -573,6 +607,13 @@ public final class GuardEdgesTest {
             check.same("any", Check.policy(x, "(node a (go any a))"), 0);
             check.same("needs nothing", x.certifyIt(false), 0);
             check.same("needs nothing", x.codeOf(false, 0, 1, 5), 0);
+        }
+        // However often, with as many calls as there can be.
+        x = check.with("(node a)", Build.program(Build.function(0, 0, 0, 0, Build.times(398, "call 1", "host 0, return")), RETURN));
+        for (int n = 0; n < 20; n++) {
+            check.same("policy", Check.policy(x, n % 2 == 0 ? "(node a (go 0 a))" : "(node a)"), 0);
+            check.same("needs", x.codeOf(false, 0, 398, 5), n % 2);
+            check.same("may behind all calls", x.mayOf(false, 0, 399), n % 2 == 0 ? 1 : 0);
         }
     }
 }

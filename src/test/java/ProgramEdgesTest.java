@@ -405,11 +405,12 @@ public final class ProgramEdgesTest {
 
     /** Promise 7: "that is the PROGRAM", whatever the object has read before */
     private static void usedBefore() {
+        // Handlers and jumps go to 2, where the other program has a HOST that is GUARDED.
         byte[][] handlers = new byte[6][];
-        Arrays.fill(handlers, Build.handler(0, 3, 1));
-        byte[] full = Build.program(Build.function(0, 12, 0x0FFF, 1, "push 1, jump 4, push 1, push 1, return", handlers),
-                Build.function(1, 1, 0, 1, "push 1, jump 4, push 1, push 1, return", handlers),
-                Build.function(2, 2, 0, 0, "push 1, jump 4, push 1, push 1, return", handlers));
+        Arrays.fill(handlers, Build.handler(0, 2, 2));
+        String words = "push 1, jump 2, return, push 1, push 1, return";
+        byte[] full = Build.program(Build.function(0, 12, 0x0FFF, 1, words, handlers), Build.function(1, 1, 0, 1, words, handlers),
+                Build.function(2, 2, 0, 0, words, handlers));
         byte[] small = Build.program(Build.function(0, 0, 0, 0, "call 1, guard 0, host 0, return, add"),
                 Build.function(0, 0, 0, 0, "push 7, guard 1, host 1, throw, push 2, return"));
         for (int rounds = 1; rounds <= 3; rounds++) {

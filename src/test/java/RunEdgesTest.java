@@ -611,6 +611,16 @@ public final class RunEdgesTest {
                 + "push 5, throw, push 7, add, return", Build.handler(12, 13, 13));
         ends("thirty-nine down", Build.program(Build.function(0, 0, 0, 1, "push 100000, push 38, call 1, add, return"), down), 0,
                 100000 + 38 * 1000 + 38 * 39 / 2 + 12);
+        // What is put behind the code stays, whatever a FUNCTION that is called then puts.
+        for (int n = 0; n <= 3; n++) {
+            byte[][] functions = new byte[5][];
+            for (int f = 0; f < 4; f++) {
+                functions[f] = Build.function(0, 0, 0, 1, f == n ? "push 1, throw, push 50, call 4, pop, add, return"
+                        : "jump 1, call " + Math.min(3, f + 1) + ", return, return, return, return, return", Build.handler(1, 2, 2));
+            }
+            functions[4] = Build.function(0, 0, 0, 1, Build.times(16, "push 9", "return"));
+            ends("caught in " + n + ", and another one is called", Build.program(functions), 0, 51);
+        }
         // Again and again, with more and more below: it never fills up.
         ends("for ever", Build.main("push 1, push 2, throw, pop, jump 0", Build.handler(0, 3, 3)), 3, 0);
         ends("a handler in its own range", Build.main("push 1, throw", Build.handler(0, 2, 1)), 3, 0);
