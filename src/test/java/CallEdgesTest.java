@@ -1,7 +1,8 @@
+import java.nio.charset.StandardCharsets;
 import java.util.Map;
 
 /**
- * Promises 1 to 5, 8, 17 and 19 to 25, numbers that calls take: each sentence that names a boundary case, one method
+ * Promises 1 to 5, 8 and 17 to 25, numbers that calls take: each sentence that names a boundary case, one method
  * each, the sentence ahead of it.
  */
 public final class CallEdgesTest {
@@ -28,10 +29,14 @@ public final class CallEdgesTest {
         functionOf();
         lookAt();
         faultOfTheLatestLoad();
+        fiveHundredTwelveCalls();
         check.end();
     }
 
-    /** Promise 1: "No BYTES; the POLICY is (node a (go any a)); no PROGRAM, nothing FORGED; no ANSWERS; no RUN; THE WATCH is as at first." */
+    /**
+     * Promise 1: "No BYTES; the POLICY is (node a (go any a)); no PROGRAM, nothing FORGED; no ANSWERS; no RUN; THE WATCH
+     * is as at first."
+     */
     private static void newObject() {
         Map<String, Long> made = Look.at(x -> { });
         Map<String, Long> loaded = Look.at(x -> {
@@ -276,7 +281,10 @@ public final class CallEdgesTest {
         check.same("the last of the last", x.wayOf(1, 15), 1);
     }
 
-    /** Promise 20: "(-2147483648 for the lowest one of an ARGUMENT; 0 where it has no such ARGUMENT, or there is no such COUNTER). 0 if there is none such, or no such what." */
+    /**
+     * Promise 20: "(-2147483648 for the lowest one of an ARGUMENT; 0 where it has no such ARGUMENT, or there is no such
+     * COUNTER). 0 if there is none such, or no such what."
+     */
     private static void letterOf() {
         GuardForge x = check.rightText("(counter c 5)(counter d 5)(node a (go 0 (count c less 3) (count d same 2) a) "
                 + "(go 15 (arg 2 more 7) (count d less 1) a))");
@@ -482,6 +490,34 @@ public final class CallEdgesTest {
         told(x, 5, 0);
         Check.policy(x, "(node a)");
         told(x, 0, -1);
+    }
+
+    /** "An object is used for at most 512 calls after it has been made": the longest text and program, and the last call */
+    private static void fiveHundredTwelveCalls() {
+        GuardForge x = new GuardForge();
+        String text = "(node abcdefghijkl (go any (not (arg 2 same -2147483648)) abcdefghijkl))";
+        Check.give(x, (text + " ".repeat(4072 - text.length())).getBytes(StandardCharsets.ISO_8859_1));
+        // cutBytes and 509 times giveBytes are 510 calls.
+        check.same("call 511", x.loadPolicy(), 0);
+        check.same("call 512", x.lookAt(2), 20);
+        x = new GuardForge();
+        Check.give(x, (" ".repeat(4056) + "(node a").getBytes(StandardCharsets.ISO_8859_1));
+        check.same("call 510", x.loadPolicy(), 3);
+        check.same("call 511", x.lookAt(11), 3);
+        check.same("call 512", x.lookAt(12), 4063);
+        x = new GuardForge();
+        byte[][] functions = new byte[10][];
+        for (int f = 0; f < 10; f++) {
+            functions[f] = Build.function(0, 0, 0, 0, Build.times(f == 9 ? 370 : 399, "return", "return"));
+        }
+        byte[] row = Build.program(functions);
+        Check.give(x, row);
+        int calls = 1 + (row.length + 7) / 8;
+        check.same("load", x.loadProgram(), 0);
+        check.same("forge", x.forgeIt(), 0);
+        for (calls += 2; calls < 512; calls++) {
+            check.same("may of the last, call " + calls, x.mayOf(true, 9, 370), 0);
+        }
     }
 
     private static void told(GuardForge x, int fault, int place) {

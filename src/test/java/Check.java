@@ -67,6 +67,21 @@ final class Check {
         return x;
     }
 
+    /** A new object with its first policy and this program. */
+    GuardForge with(byte[] row) {
+        GuardForge x = new GuardForge();
+        same("loadProgram", program(x, row), 0);
+        return x;
+    }
+
+    /** How a program ends that is given as much fuel as can be, by the first policy and without answers. */
+    void ends(String name, byte[] row, int how, int value) {
+        GuardForge x = with(row);
+        same(name + ": runIt", x.runIt(false, 20000), how);
+        same(name + ": how", x.endOf(0), how);
+        same(name + ": value", x.endOf(1), value);
+    }
+
     void policyFault(GuardForge x, String text, int fault, int place) {
         String shown = text.length() > 70 ? text.substring(0, 70) + ".." : text;
         same("loadPolicy of " + shown, policy(x, text), fault);

@@ -44,24 +44,12 @@ public final class RunEdgesTest {
         check.end();
     }
 
-    private static GuardForge with(byte[] row) {
-        GuardForge x = new GuardForge();
-        check.same("loadProgram", Check.program(x, row), 0);
-        return x;
-    }
-
-    private static void ends(String name, byte[] row, int how, int value) {
-        GuardForge x = with(row);
-        check.same(name + ": runIt", x.runIt(false, 20000), how);
-        check.same(name + ": value", x.endOf(1), value);
-    }
-
     private static void value(String words, int value) {
-        ends(words, Build.main(words), 0, value);
+        check.ends(words, Build.main(words), 0, value);
     }
 
     private static void code(String words, int code) {
-        ends(words, Build.main(words), 1, code);
+        check.ends(words, Build.main(words), 1, code);
     }
 
     /** What two INTS come to, by long numbers where Java's own ints could be wrong in the same way. */
@@ -90,10 +78,13 @@ public final class RunEdgesTest {
         }
     }
 
-    /** "6 ADD, 7 SUB, 8 MUL (modulo 2^32), 9 DIV, rounded towards 0 (-2147483648 by -1 is -2147483648), 10 REM .. 17 SAME: take b, then a" */
+    /**
+     * "6 ADD, 7 SUB, 8 MUL (modulo 2^32), 9 DIV, rounded towards 0 (-2147483648 by -1 is -2147483648), 10 REM ..
+     * 17 SAME: take b, then a"
+     */
     private static void reckoning() {
         for (String word : new String[] {"add", "sub", "mul", "div", "rem", "and", "or", "xor", "less", "same"}) {
-            GuardForge x = with(Build.main("host 0, host 0, " + word + ", return"));
+            GuardForge x = check.with(Build.main("host 0, host 0, " + word + ", return"));
             for (int a : EDGES) {
                 for (int b : EDGES) {
                     x.dropAnswers();
@@ -119,8 +110,8 @@ public final class RunEdgesTest {
     private static void shifts() {
         int[] by = {0, 1, 30, 31, 32, 33, 63, 64, -1, -31, -32, -33, LOW, HIGH};
         for (int a : EDGES) {
-            GuardForge x = with(Build.main("push " + a + ", host 0, shl, return"));
-            GuardForge y = with(Build.main("push " + a + ", host 0, shr, return"));
+            GuardForge x = check.with(Build.main("push " + a + ", host 0, shl, return"));
+            GuardForge y = check.with(Build.main("push " + a + ", host 0, shr, return"));
             for (int b : by) {
                 long times = 1L << (b & 31);
                 x.dropAnswers();
@@ -138,7 +129,7 @@ public final class RunEdgesTest {
     /** "19 IF t: takes an INT, and goes there if it is not 0; 20 IFNOT t: if it is 0" */
     private static void jumpsByZero() {
         for (String word : new String[] {"if", "ifnot"}) {
-            GuardForge x = with(Build.main("host 0, " + word + " 4, push 10, return, push 20, return"));
+            GuardForge x = check.with(Build.main("host 0, " + word + " 4, push 10, return, push 20, return"));
             for (int v : EDGES) {
                 x.dropAnswers();
                 x.addAnswer(v);
@@ -147,7 +138,7 @@ public final class RunEdgesTest {
             }
         }
         // To the first and to the last INSTRUCTION.
-        GuardForge x = with(Build.program(Build.function(0, 0, 0, 0, "jump 399, " + Build.times(398, "return", "jump 0"))));
+        GuardForge x = check.with(Build.program(Build.function(0, 0, 0, 0, "jump 399, " + Build.times(398, "return", "jump 0"))));
         check.same("to the last and back", x.runIt(false, 1001), 3);
         check.same("steps", x.endOf(2), 1001);
     }
@@ -159,7 +150,7 @@ public final class RunEdgesTest {
             words.append("push ").append(1 << l).append(", store ").append(l).append(", ");
         }
         for (int l = 0; l < 12; l++) {
-            ends("local " + l, Build.program(Build.function(0, 12, 0, 1, words + "load " + l + ", return")), 0, 1 << l);
+            check.ends("local " + l, Build.program(Build.function(0, 12, 0, 1, words + "load " + l + ", return")), 0, 1 << l);
         }
         for (int k : EDGES) {
             value("push " + k + ", return", k);
@@ -171,14 +162,14 @@ public final class RunEdgesTest {
     private static void localsAtFirst() {
         byte[] uses = Build.function(0, 12, 0x0AAA, 1, "load 0, load 1, size, add, load 10, add, load 11, size, add, "
                 + "push 5, store 0, push 6, store 10, push 7, new, store 1, push 8, new, store 11, return");
-        ends("the first time and the third", Build.program(Build.function(0, 0, 0, 1,
+        check.ends("the first time and the third", Build.program(Build.function(0, 0, 0, 1,
                 "call 1, call 1, call 1, add, add, return"), uses), 0, 0);
         // Also where one that was called before had others, of other types.
-        ends("behind other functions", Build.program(Build.function(0, 0, 0, 1, "call 2, pop, call 1, return"), uses,
+        check.ends("behind other functions", Build.program(Build.function(0, 0, 0, 1, "call 2, pop, call 1, return"), uses,
                 Build.function(0, 12, 0x0555, 1, "push 9, store 1, push 9, store 11, push 9, new, store 0, push 9, new, store 10, "
                         + "push 1, return")), 0, 0);
         // A PARAM is what was given, the LOCALS behind it are as at first.
-        ends("behind a param", Build.program(Build.function(0, 0, 0, 1, "push 3, push 4, add, call 1, return"),
+        check.ends("behind a param", Build.program(Build.function(0, 0, 0, 1, "push 3, push 4, add, call 1, return"),
                 Build.function(1, 3, 4, 1, "load 0, load 1, add, load 2, size, add, return")), 0, 7);
         code("load 4, push 0, get, return", 2);
         code("load 5, push 0, push 1, put, push 1, return", 2);
@@ -188,18 +179,18 @@ public final class RunEdgesTest {
     private static void newRows() {
         for (int n : new int[] {0, 1, 2, 255, 256}) {
             value("push " + n + ", new, size, return", n);
-            GuardForge x = with(Build.main("push " + n + ", new, size, return"));
+            GuardForge x = check.with(Build.main("push " + n + ", new, size, return"));
             x.runIt(false, 9);
             check.same("INTS of a row of " + n, x.endOf(6), n);
         }
         for (int n : new int[] {-1, 257, -256, 258, 512, 4096, 65536, LOW, HIGH}) {
             code("push " + n + ", new, size, return", 3);
-            GuardForge x = with(Build.main("push " + n + ", new, size, return"));
+            GuardForge x = check.with(Build.main("push " + n + ", new, size, return"));
             x.runIt(false, 9);
             check.same("no INTS of a row of " + n, x.endOf(6), 0);
         }
         // All of them are 0, the first and the last, also where a row of an earlier RUN was.
-        GuardForge x = with(Build.main("push 256, new, store 4, load 4, push 0, get, load 4, push 255, get, or, store 0, "
+        GuardForge x = check.with(Build.main("push 256, new, store 4, load 4, push 0, get, load 4, push 255, get, or, store 0, "
                 + "load 4, push 0, push 7, put, load 4, push 255, push 7, put, load 0, return"));
         for (int n = 0; n < 3; n++) {
             check.same("run", x.runIt(false, 100), 0);
@@ -211,25 +202,25 @@ public final class RunEdgesTest {
     private static void allRowsTogether() {
         String fifteen = "push 15, store 0, push 256, new, pop, load 0, push 1, sub, dup, store 0, if 2, ";
         for (int n : new int[] {0, 1, 255, 256}) {
-            GuardForge x = with(Build.main(fifteen + "push " + n + ", new, size, return"));
+            GuardForge x = check.with(Build.main(fifteen + "push " + n + ", new, size, return"));
             check.same("3840 and " + n, x.runIt(false, 20000), 0);
             check.same("INTS of all rows", x.endOf(6), 3840 + n);
         }
         for (int n = 0; n <= 2; n++) {
-            GuardForge x = with(Build.main(fifteen + "push 255, new, pop, push " + n + ", new, size, return"));
+            GuardForge x = check.with(Build.main(fifteen + "push 255, new, pop, push " + n + ", new, size, return"));
             check.same("4095 and " + n, x.runIt(false, 20000), n <= 1 ? 0 : 1);
             check.same("value or code", x.endOf(1), n <= 1 ? n : 3);
             check.same("INTS of all rows", x.endOf(6), n <= 1 ? 4095 + n : 4095);
         }
         // Where there is no room for two there still is for one, and then for none, but a row of 0.
-        GuardForge x = with(Build.main(fifteen + "push 255, new, pop, push 2, new, pop, push 1, return, pop, push 1, new, pop, "
+        GuardForge x = check.with(Build.main(fifteen + "push 255, new, pop, push 2, new, pop, push 1, return, pop, push 1, new, pop, "
                 + "push 0, new, size, push 1, new, size, add, return, push 40, add, return",
                 Build.handler(11, 16, 19), Build.handler(19, 28, 31, 3)));
         check.same("caught twice", x.runIt(false, 20000), 0);
         check.same("the second code and 40", x.endOf(1), 43);
         check.same("4096", x.endOf(6), 4096);
         // Of all FUNCTIONS, those that are done no more, too.
-        x = with(Build.program(Build.function(0, 1, 0, 1, "push 16, store 0, call 1, load 0, push 1, sub, dup, store 0, if 2, "
+        x = check.with(Build.program(Build.function(0, 1, 0, 1, "push 16, store 0, call 1, load 0, push 1, sub, dup, store 0, if 2, "
                 + "push 1, new, size, return"), Build.function(0, 1, 1, 0, "push 256, new, store 0, return")));
         check.same("16 of another function, and one", x.runIt(false, 20000), 1);
         check.same("code", x.endOf(1), 3);
@@ -245,10 +236,10 @@ public final class RunEdgesTest {
             for (int i : new int[] {LOW, -1, 0, 1, n - 1, n, n + 1, 256, 511, 512, HIGH}) {
                 boolean there = i >= 0 && i < n;
                 String row = "push " + n + ", new, store 4, load 4, push " + i + ", ";
-                GuardForge x = with(Build.main(row + "get, return"));
+                GuardForge x = check.with(Build.main(row + "get, return"));
                 check.same("get " + i + " of " + n, x.runIt(false, 99), there ? 0 : 1);
                 check.same("get " + i + " of " + n, x.endOf(1), there ? 0 : 2);
-                x = with(Build.main(row + "push 77, put, load 4, push " + i + ", get, return"));
+                x = check.with(Build.main(row + "push 77, put, load 4, push " + i + ", get, return"));
                 check.same("put " + i + " of " + n, x.runIt(false, 99), there ? 0 : 1);
                 check.same("put " + i + " of " + n, x.endOf(1), there ? 77 : 2);
             }
@@ -284,12 +275,12 @@ public final class RunEdgesTest {
                 loads.append("push 10, mul, load ").append(k).append(", add, ");
                 due = 10 * due + k + 1;
             }
-            ends(n + " params", Build.program(Build.function(0, 0, 0, 1, pushes + "call 1, add, return"),
+            check.ends(n + " params", Build.program(Build.function(0, 0, 0, 1, pushes + "call 1, add, return"),
                     Build.function(n, n, 0, 1, loads + "return")), 0, 1000 + due);
-            ends(n + " params, no result", Build.program(Build.function(0, 0, 0, 1, pushes + "call 1, return"),
+            check.ends(n + " params, no result", Build.program(Build.function(0, 0, 0, 1, pushes + "call 1, return"),
                     Build.function(n, n, 0, 0, "push 5, return")), 0, 1000);
         }
-        ends("the last of twelve", Build.program(Build.function(0, 0, 0, 1, "call 11, return"), one(1), one(2), one(3), one(4),
+        check.ends("the last of twelve", Build.program(Build.function(0, 0, 0, 1, "call 11, return"), one(1), one(2), one(3), one(4),
                 one(5), one(6), one(7), one(8), one(9), one(10), one(11)), 0, 11);
     }
 
@@ -301,7 +292,7 @@ public final class RunEdgesTest {
     private static void argumentsOfHosts() {
         for (int c = 0; c < 16; c++) {
             // What is above the stack's top, and below the arguments, are none of them.
-            GuardForge x = with(Build.main("push 91, push 92, push 93, push 94, pop, pop, pop, pop, push 500, "
+            GuardForge x = check.with(Build.main("push 91, push 92, push 93, push 94, pop, pop, pop, pop, push 500, "
                     + (c % 4 > 0 ? "push 11, " : "") + (c % 4 > 1 ? "push 12, " : "") + (c % 4 > 2 ? "push 13, " : "")
                     + "host " + c + ", sub, return"));
             x.addAnswer(7);
@@ -318,13 +309,13 @@ public final class RunEdgesTest {
     /** "27 RETURN: takes RESULT, if there is one; what is below that is gone" */
     private static void whatIsBelow() {
         for (int n = 0; n <= 15; n++) {
-            ends(n + " below", Build.program(Build.function(0, 0, 0, 1, "push 100, call 1, sub, return"),
+            check.ends(n + " below", Build.program(Build.function(0, 0, 0, 1, "push 100, call 1, sub, return"),
                     Build.function(0, 0, 0, 1, Build.times(n, "push 9", "push 1, return"))), 0, 99);
         }
-        ends("sixteen below, no result", Build.program(Build.function(0, 0, 0, 1, "push 100, call 1, return"),
+        check.ends("sixteen below, no result", Build.program(Build.function(0, 0, 0, 1, "push 100, call 1, return"),
                 Build.function(0, 0, 0, 0, Build.times(16, "push 9", "return"))), 0, 100);
         // Sixteen on each of forty stacks, and none disturbs another one.
-        ends("forty full stacks", Build.program(Build.function(0, 0, 0, 1, "push 38, call 1, return"),
+        check.ends("forty full stacks", Build.program(Build.function(0, 0, 0, 1, "push 38, call 1, return"),
                 Build.function(1, 1, 0, 1, Build.times(14, "load 0", "load 0, ifnot 21, load 0, push 1, sub, call 1, jump 22, push 0, "
                         + Build.times(14, "add", "return")))), 0, 14 * 38 * 39 / 2);
     }
@@ -333,24 +324,24 @@ public final class RunEdgesTest {
     private static void fortyFunctions() {
         byte[] down = Build.function(1, 1, 0, 1, "load 0, ifnot 7, load 0, push 1, sub, call 1, return, push 5, return");
         for (int n = 37; n <= 40; n++) {
-            GuardForge x = with(Build.program(Build.function(0, 0, 0, 1, "push " + n + ", call 1, return"), down));
+            GuardForge x = check.with(Build.program(Build.function(0, 0, 0, 1, "push " + n + ", call 1, return"), down));
             check.same(n + 2 + " at once", x.runIt(false, 20000), n <= 38 ? 0 : 1);
             check.same("value or code", x.endOf(1), n <= 38 ? 5 : 4);
             check.same("most at once", x.endOf(7), Math.min(40, n + 2));
         }
         // Those that have returned are not being done any more.
-        GuardForge x = with(Build.program(Build.function(0, 1, 0, 1, "push 100, store 0, push 5, call 1, pop, load 0, push 1, sub, "
+        GuardForge x = check.with(Build.program(Build.function(0, 1, 0, 1, "push 100, store 0, push 5, call 1, pop, load 0, push 1, sub, "
                 + "dup, store 0, if 2, push 38, call 1, return"), down));
         check.same("a hundred times seven, then forty", x.runIt(false, 20000), 0);
         check.same("value", x.endOf(1), 5);
         check.same("most at once", x.endOf(7), 40);
         // Nor are those that a code was thrown through.
-        x = with(Build.program(Build.function(0, 1, 0, 1, "push 30, store 0, push 39, call 1, return, pop, load 0, push 1, sub, "
+        x = check.with(Build.program(Build.function(0, 1, 0, 1, "push 30, store 0, push 39, call 1, return, pop, load 0, push 1, sub, "
                 + "dup, store 0, if 2, push 38, call 1, return", Build.handler(3, 4, 5, 4)), down));
         check.same("thirty times too many, then forty", x.runIt(false, 20000), 0);
         check.same("value", x.endOf(1), 5);
         // It is thrown by the CALL, in the FUNCTION in which that is.
-        x = with(Build.program(Build.function(0, 0, 0, 1, "call 1, return"),
+        x = check.with(Build.program(Build.function(0, 0, 0, 1, "call 1, return"),
                 Build.function(0, 0, 0, 1, "call 1, return, push 100, add, return", Build.handler(0, 1, 2, 4))));
         check.same("caught", x.runIt(false, 20000), 0);
         check.same("value", x.endOf(1), 104);
@@ -359,21 +350,21 @@ public final class RunEdgesTest {
 
     /** "If STEPS (0 at first) is FUEL, ahead of an INSTRUCTION (also a GUARD), the RUN ENDS 3." */
     private static void fuelIsGone() {
-        GuardForge x = with(Build.main("push 1, push 2, add, return"));
+        GuardForge x = check.with(Build.main("push 1, push 2, add, return"));
         for (int fuel = 0; fuel <= 5; fuel++) {
             check.same("runIt with " + fuel, x.runIt(false, fuel), fuel < 4 ? 3 : 0);
             check.same("steps with " + fuel, x.endOf(2), Math.min(4, fuel));
             check.same("value with " + fuel, x.endOf(1), fuel < 4 ? 0 : 3);
         }
         // One that throws is a STEP; what is thrown there is not lost if fuel is gone behind it.
-        x = with(Build.main("push 1, throw"));
+        x = check.with(Build.main("push 1, throw"));
         check.same("fuel 1", x.runIt(false, 1), 3);
         check.same("fuel 2", x.runIt(false, 2), 1);
-        x = with(Build.main("push 1, throw, return", Build.handler(1, 2, 2)));
+        x = check.with(Build.main("push 1, throw, return", Build.handler(1, 2, 2)));
         check.same("fuel 2, with a handler", x.runIt(false, 2), 3);
         check.same("fuel 3, with a handler", x.runIt(false, 3), 0);
         // A CALL, a HOST and a RETURN are one each.
-        x = with(Build.program(Build.function(0, 0, 0, 0, "call 1, host 0, return"), Build.function(0, 0, 0, 0, "return")));
+        x = check.with(Build.program(Build.function(0, 0, 0, 0, "call 1, host 0, return"), Build.function(0, 0, 0, 0, "return")));
         int[] calls = {0, 0, 0, 1, 1};
         for (int fuel = 0; fuel <= 4; fuel++) {
             check.same("runIt with " + fuel, x.runIt(false, fuel), fuel < 4 ? 3 : 0);
@@ -384,7 +375,7 @@ public final class RunEdgesTest {
 
     /** Promise 13: "with such FUEL, 0 .. 20000 .. NONE if there is none such, or no such FUEL (the latest RUN stays)" */
     private static void fuelFromTo() {
-        GuardForge x = with(Build.main("jump 0"));
+        GuardForge x = check.with(Build.main("jump 0"));
         check.same("20000", x.runIt(false, 20000), 3);
         check.same("steps", x.endOf(2), 20000);
         check.same("19999", x.runIt(false, 19999), 3);
@@ -407,20 +398,20 @@ public final class RunEdgesTest {
 
     /** "All others are a STEP each.": a GUARD is none, however many there are */
     private static void guardsAreNoSteps() {
-        GuardForge x = with(Build.main("guard 0, host 0, return"));
+        GuardForge x = check.with(Build.main("guard 0, host 0, return"));
         int[] passed = {0, 1, 1};
         for (int fuel = 0; fuel <= 2; fuel++) {
             check.same("runIt with " + fuel, x.runIt(false, fuel), fuel < 2 ? 3 : 0);
             check.same("steps with " + fuel, x.endOf(2), fuel);
             check.same("guards with " + fuel, x.endOf(4), passed[fuel]);
         }
-        x = with(Build.main("push 1, guard 0, return"));
+        x = check.with(Build.main("push 1, guard 0, return"));
         check.same("fuel is gone ahead of a guard", x.runIt(false, 1), 3);
         check.same("not passed", x.endOf(4), 0);
         check.same("fuel is gone behind it", x.runIt(false, 2), 0);
         check.same("passed", x.endOf(4), 1);
         // As many as there can be: 399 for each STEP, of which there are 20000.
-        x = with(Build.main(Build.times(399, "guard 0", "jump 0")));
+        x = check.with(Build.main(Build.times(399, "guard 0", "jump 0")));
         check.same("the longest run", x.runIt(false, 20000), 3);
         check.same("steps", x.endOf(2), 20000);
         check.same("guards", x.endOf(4), 399 * 20000);
@@ -476,7 +467,7 @@ public final class RunEdgesTest {
 
     /** "The ANSWER of the n-th CALL OUTSIDE of a RUN is the n-th that is given, 0 if there are fewer." */
     private static void answers() {
-        GuardForge x = with(Build.main("host 0, push 100, mul, host 0, add, push 100, mul, host 0, add, return"));
+        GuardForge x = check.with(Build.main("host 0, push 100, mul, host 0, add, push 100, mul, host 0, add, return"));
         int[] due = {0, 10000, 10200, 10203, 10203};
         for (int n = 0; n <= 4; n++) {
             check.same("run with " + n, x.runIt(false, 99), 0);
@@ -497,7 +488,7 @@ public final class RunEdgesTest {
 
     /** Promise 11: "One more ANSWER: how many there are; NONE if there are 256." and promise 12: "No ANSWERS any more." */
     private static void mostAnswers() {
-        GuardForge x = with(Build.main("push 257, store 0, host 0, store 1, load 0, push 1, sub, dup, store 0, if 2, load 1, return"));
+        GuardForge x = check.with(Build.main("push 257, store 0, host 0, store 1, load 0, push 1, sub, dup, store 0, if 2, load 1, return"));
         x.dropAnswers();
         check.same("none", x.lookAt(8), 0);
         for (int n = 1; n <= 256; n++) {
@@ -524,10 +515,10 @@ public final class RunEdgesTest {
 
     /** "the RUN ENDS 0, with its value (0 if it has no RESULT)" */
     private static void endsZero() {
-        ends("no result", Build.program(Build.function(0, 0, 0, 0, "push 5, return")), 0, 0);
-        ends("nothing at all", Build.program(Build.function(0, 0, 0, 0, "return")), 0, 0);
-        ends("a result", Build.program(Build.function(0, 0, 0, 1, "push 4, push 5, return")), 0, 5);
-        GuardForge x = with(Build.main("host 0, return"));
+        check.ends("no result", Build.program(Build.function(0, 0, 0, 0, "push 5, return")), 0, 0);
+        check.ends("nothing at all", Build.program(Build.function(0, 0, 0, 0, "return")), 0, 0);
+        check.ends("a result", Build.program(Build.function(0, 0, 0, 1, "push 4, push 5, return")), 0, 5);
+        GuardForge x = check.with(Build.main("host 0, return"));
         for (int v : EDGES) {
             x.dropAnswers();
             x.addAnswer(v);
@@ -538,8 +529,8 @@ public final class RunEdgesTest {
 
     /** "any by THROW", and the RUN ENDS 1 "with the code as its value" */
     private static void anyCode() {
-        GuardForge x = with(Build.main("host 0, throw"));
-        GuardForge y = with(Build.main("host 0, throw, return", Build.handler(1, 2, 2)));
+        GuardForge x = check.with(Build.main("host 0, throw"));
+        GuardForge y = check.with(Build.main("host 0, throw, return", Build.handler(1, 2, 2)));
         for (int v : EDGES) {
             x.dropAnswers();
             x.addAnswer(v);
@@ -556,7 +547,7 @@ public final class RunEdgesTest {
             int at = words[n - 1].split(",").length;
             for (int code = 0; code <= 5; code++) {
                 boolean caught = code == n;
-                GuardForge z = with(Build.main(words[n - 1] + ", return, push 50, add, return",
+                GuardForge z = check.with(Build.main(words[n - 1] + ", return, push 50, add, return",
                         Build.handler(0, at, at + 1, code)));
                 check.same("code " + n + ", handler for " + code, z.runIt(false, 20000), caught ? 0 : 1);
                 check.same("value", z.endOf(1), caught ? n + 50 : n);
@@ -570,10 +561,10 @@ public final class RunEdgesTest {
             for (int to = from + 1; to <= 5; to++) {
                 // The THROW is at 2.
                 boolean caught = from <= 2 && to > 2;
-                ends("from " + from + " to " + to, Build.main("push 9, jump 2, throw, return, return, push 1, add, return",
+                check.ends("from " + from + " to " + to, Build.main("push 9, jump 2, throw, return, return, push 1, add, return",
                         Build.handler(from, to, 5)), caught ? 0 : 1, caught ? 10 : 9);
                 // And here a CALL, for what is thrown through it.
-                ends("a call, from " + from + " to " + to, Build.program(
+                check.ends("a call, from " + from + " to " + to, Build.program(
                         Build.function(0, 0, 0, 1, "push 9, jump 2, call 1, push 1, return, push 1, add, return",
                                 Build.handler(from, to, 5)), Build.function(1, 1, 0, 0, "load 0, throw")),
                         caught ? 0 : 1, caught ? 10 : 9);
@@ -590,26 +581,26 @@ public final class RunEdgesTest {
                 handlers[h] = h < n ? h % 2 == 0 ? Build.handler(1, 2, 2, 8) : Build.handler(0, 1, 2)
                         : h == n ? n % 2 == 0 ? Build.handler(1, 2, 5, 9) : Build.handler(1, 2, 5) : Build.handler(1, 2, 8);
             }
-            ends("handler " + n, Build.main(words, handlers), 0, 29);
+            check.ends("handler " + n, Build.main(words, handlers), 0, 29);
         }
         byte[][] none = new byte[6][];
         for (int h = 0; h < 6; h++) {
             none[h] = Build.handler(1, 2, 2, 8);
         }
-        ends("none of six", Build.main(words, none), 1, 9);
+        check.ends("none of six", Build.main(words, none), 1, 9);
     }
 
     /** "there is the code alone on the STACK then, and it goes on at TARGET" */
     private static void codeAlone() {
         // Sixteen are on the stack when it throws, and room for fifteen more behind it.
         for (int n = 0; n <= 15; n++) {
-            ends(n + " below", Build.main(Build.times(n, "push 5", "push 9, throw, " + Build.times(15, "push 1", "")
+            check.ends(n + " below", Build.main(Build.times(n, "push 5", "push 9, throw, " + Build.times(15, "push 1", "")
                     + Build.times(15, "add", "return")), Build.handler(0, n + 2, n + 2)), 0, 9 + 15);
         }
         // In a FUNCTION far down, and the stacks of those that began it stay.
         byte[] down = Build.function(1, 1, 0, 1, "push 1000, load 0, load 0, ifnot 11, load 0, push 1, sub, call 1, add, add, return, "
                 + "push 5, throw, push 7, add, return", Build.handler(12, 13, 13));
-        ends("thirty-nine down", Build.program(Build.function(0, 0, 0, 1, "push 100000, push 38, call 1, add, return"), down), 0,
+        check.ends("thirty-nine down", Build.program(Build.function(0, 0, 0, 1, "push 100000, push 38, call 1, add, return"), down), 0,
                 100000 + 38 * 1000 + 38 * 39 / 2 + 12);
         // What is put behind the code stays, whatever a FUNCTION that is called then puts.
         for (int n = 0; n <= 3; n++) {
@@ -619,13 +610,13 @@ public final class RunEdgesTest {
                         : "jump 1, call " + Math.min(3, f + 1) + ", return, return, return, return, return", Build.handler(1, 2, 2));
             }
             functions[4] = Build.function(0, 0, 0, 1, Build.times(16, "push 9", "return"));
-            ends("caught in " + n + ", and another one is called", Build.program(functions), 0, 51);
+            check.ends("caught in " + n + ", and another one is called", Build.program(functions), 0, 51);
         }
         // Again and again, with more and more below: it never fills up.
-        ends("for ever", Build.main("push 1, push 2, throw, pop, jump 0", Build.handler(0, 3, 3)), 3, 0);
-        ends("a handler in its own range", Build.main("push 1, throw", Build.handler(0, 2, 1)), 3, 0);
+        check.ends("for ever", Build.main("push 1, push 2, throw, pop, jump 0", Build.handler(0, 3, 3)), 3, 0);
+        check.ends("a handler in its own range", Build.main("push 1, throw", Build.handler(0, 2, 1)), 3, 0);
         // LOCALS stay.
-        ends("locals", Build.main("push 6, store 0, push 8, throw, load 0, add, return", Build.handler(3, 4, 4)), 0, 14);
+        check.ends("locals", Build.main("push 6, store 0, push 8, throw, load 0, add, return", Build.handler(3, 4, 4)), 0, 14);
     }
 
     /** "If there is none, the FUNCTION is done no more, and the code is THROWN by the CALL that began it; by none for FUNCTION 0" */
@@ -639,11 +630,11 @@ public final class RunEdgesTest {
                     functions[f] = f == catches ? Build.function(0, 0, 0, 1, words, Build.handler(0, 2, 3))
                             : Build.function(0, 0, 0, 1, words, Build.handler(0, 2, 3, 77));
                 }
-                ends("thrown in " + depth + ", caught in " + catches, Build.program(functions), 0, 9 + 100 * (catches + 1));
+                check.ends("thrown in " + depth + ", caught in " + catches, Build.program(functions), 0, 9 + 100 * (catches + 1));
             }
         }
         byte[] thrower = Build.function(0, 0, 0, 0, "push 9, throw, return", Build.handler(0, 1, 2), Build.handler(1, 2, 2, 8));
-        GuardForge x = with(Build.program(Build.function(0, 0, 0, 1, "call 1, push 1, return, return", Build.handler(1, 3, 3)), thrower));
+        GuardForge x = check.with(Build.program(Build.function(0, 0, 0, 1, "call 1, push 1, return, return", Build.handler(1, 3, 3)), thrower));
         check.same("by none", x.runIt(false, 99), 1);
         check.same("code", x.endOf(1), 9);
         check.same("steps", x.endOf(2), 3);
@@ -652,14 +643,14 @@ public final class RunEdgesTest {
 
     /** "When FUNCTION 0 RETURNS the RUN ENDS 0": the one with which the RUN began; one that a CALL began goes back to it */
     private static void functionZeroAgain() {
-        GuardForge x = with(Build.main("host 0, if 6, call 0, push 3, add, return, push 10, return"));
+        GuardForge x = check.with(Build.main("host 0, if 6, call 0, push 3, add, return, push 10, return"));
         x.addAnswer(0);
         x.addAnswer(0);
         x.addAnswer(1);
         check.same("three times", x.runIt(false, 99), 0);
         check.same("value", x.endOf(1), 16);
         check.same("three at once", x.endOf(7), 3);
-        x = with(Build.main("host 0, if 5, call 0, return, throw, push 10, throw, push 3, add, return", Build.handler(2, 3, 7)));
+        x = check.with(Build.main("host 0, if 5, call 0, return, throw, push 10, throw, push 3, add, return", Build.handler(2, 3, 7)));
         x.addAnswer(0);
         x.addAnswer(1);
         check.same("thrown by the CALL that began it", x.runIt(false, 99), 0);
@@ -745,7 +736,7 @@ public final class RunEdgesTest {
 
     /** Promise 15: "from 0 on (the first 256 are kept)", "0 if it is not kept, or there is none such, no such what, or no RUN" */
     private static void keptCalls() {
-        GuardForge x = with(Build.main("push 1, store 0, load 0, push 2, push 3, host 3, pop, load 0, push 1, add, dup, store 0, "
+        GuardForge x = check.with(Build.main("push 1, store 0, load 0, push 2, push 3, host 3, pop, load 0, push 1, add, dup, store 0, "
                 + "push 259, less, if 2, push 1, return"));
         x.addAnswer(77);
         check.same("run", x.runIt(false, 20000), 0);

@@ -25,25 +25,12 @@ public final class RunTest {
         check.end();
     }
 
-    private static GuardForge with(byte[] row) {
-        GuardForge x = new GuardForge();
-        check.same("loadProgram", Check.program(x, row), 0);
-        return x;
-    }
-
-    private static void ends(String name, byte[] row, int how, int value) {
-        GuardForge x = with(row);
-        check.same(name + ": runIt", x.runIt(false, 20000), how);
-        check.same(name + ": how", x.endOf(0), how);
-        check.same(name + ": value", x.endOf(1), value);
-    }
-
     private static void value(String words, int value) {
-        ends(words, Build.main(words), 0, value);
+        check.ends(words, Build.main(words), 0, value);
     }
 
     private static void code(String words, int code) {
-        ends(words, Build.main(words), 1, code);
+        check.ends(words, Build.main(words), 1, code);
     }
 
     private static void two(int a, int b, String word, int due) {
@@ -91,7 +78,7 @@ public final class RunTest {
         value("push 9, store 3, push 1, load 3, return", 9);
         value("load 4, size, return", 0);
         value("push 5, push 6, return", 6);
-        ends("no result", Build.program(Build.function(0, 0, 0, 0, "push 5, return")), 0, 0);
+        check.ends("no result", Build.program(Build.function(0, 0, 0, 0, "push 5, return")), 0, 0);
     }
 
     private static void jumps() {
@@ -130,11 +117,11 @@ public final class RunTest {
     }
 
     private static void roomForRows() {
-        GuardForge x = with(Build.main("push 16, store 0, push 256, new, pop, load 0, push 1, sub, dup, store 0, if 2, "
+        GuardForge x = check.with(Build.main("push 16, store 0, push 256, new, pop, load 0, push 1, sub, dup, store 0, if 2, "
                 + "push 0, new, size, return"));
         check.same("just 4096", x.runIt(false, 20000), 0);
         check.same("ints of all rows", x.endOf(6), 4096);
-        x = with(Build.main("push 16, store 0, push 256, new, pop, load 0, push 1, sub, dup, store 0, if 2, "
+        x = check.with(Build.main("push 16, store 0, push 256, new, pop, load 0, push 1, sub, dup, store 0, if 2, "
                 + "push 1, new, size, return"));
         check.same("one too many", x.runIt(false, 20000), 1);
         check.same("its code", x.endOf(1), 3);
@@ -142,7 +129,7 @@ public final class RunTest {
         check.same("the next run has room again", x.runIt(false, 20), 3);
         check.same("ints of that", x.endOf(6), 512);
         // A row is all 0, also where an earlier run had something.
-        x = with(Build.main("push 1, new, dup, push 0, get, store 0, push 0, push 9, put, load 0, return"));
+        x = check.with(Build.main("push 1, new, dup, push 0, get, store 0, push 0, push 9, put, load 0, return"));
         check.same("first", x.runIt(false, 100), 0);
         check.same("0 at first", x.endOf(1), 0);
         check.same("second", x.runIt(false, 100), 0);
@@ -150,57 +137,57 @@ public final class RunTest {
     }
 
     private static void functions() {
-        ends("parameters in their order", Build.program(
+        check.ends("parameters in their order", Build.program(
                 Build.function(0, 0, 0, 1, "push 10, push 3, call 1, return"),
                 Build.function(2, 2, 0, 1, "load 0, load 1, sub, return")), 0, 7);
-        ends("locals are their own", Build.program(
+        check.ends("locals are their own", Build.program(
                 Build.function(0, 2, 0, 1, "push 5, store 1, push 1, call 1, load 1, return"),
                 Build.function(1, 2, 0, 0, "push 9, store 1, return")), 0, 5);
-        ends("locals are 0 in each call", Build.program(
+        check.ends("locals are 0 in each call", Build.program(
                 Build.function(0, 0, 0, 1, "call 1, call 1, add, return"),
                 Build.function(0, 1, 0, 1, "load 0, push 9, store 0, return")), 0, 0);
-        ends("also where the stack had something", Build.program(
+        check.ends("also where the stack had something", Build.program(
                 Build.function(0, 0, 0, 1, "push 1, push 9, pop, call 1, return"),
                 Build.function(1, 2, 0, 1, "load 1, return")), 0, 0);
-        ends("a row goes in and comes out", Build.program(
+        check.ends("a row goes in and comes out", Build.program(
                 Build.function(0, 1, 1, 1, "push 2, new, dup, store 0, call 1, push 1, get, load 0, push 1, get, add, return"),
                 Build.function(1, 1, 1, 2, "load 0, push 1, push 21, put, load 0, return")), 0, 42);
-        ends("what is below a call stays", Build.program(
+        check.ends("what is below a call stays", Build.program(
                 Build.function(0, 0, 0, 1, "push 100, push 20, push 3, call 1, sub, sub, return"),
                 Build.function(1, 1, 0, 1, "push 7, push 8, load 0, return")), 0, 83);
-        ends("no result", Build.program(
+        check.ends("no result", Build.program(
                 Build.function(0, 0, 0, 1, "push 4, call 1, return"), Build.function(0, 0, 0, 0, "push 8, return")), 0, 4);
         // The row of a local is of no ints in each call, also where another call had one.
-        ends("rows of locals at first", Build.program(
+        check.ends("rows of locals at first", Build.program(
                 Build.function(0, 0, 0, 1, "call 1, call 1, add, return"),
                 Build.function(0, 1, 1, 1, "load 0, size, push 5, new, store 0, return")), 0, 0);
     }
 
     private static void depth() {
-        GuardForge x = with(Build.program(Build.function(0, 0, 0, 1, "push 38, call 1, return"),
+        GuardForge x = check.with(Build.program(Build.function(0, 0, 0, 1, "push 38, call 1, return"),
                 Build.function(1, 1, 0, 1, "load 0, ifnot 7, load 0, push 1, sub, call 1, return, push 5, return")));
         check.same("40 at once", x.runIt(false, 20000), 0);
         check.same("value", x.endOf(1), 5);
         check.same("most", x.endOf(7), 40);
-        x = with(Build.program(Build.function(0, 0, 0, 1, "push 39, call 1, return"),
+        x = check.with(Build.program(Build.function(0, 0, 0, 1, "push 39, call 1, return"),
                 Build.function(1, 1, 0, 1, "load 0, ifnot 7, load 0, push 1, sub, call 1, return, push 5, return")));
         check.same("41 at once", x.runIt(false, 20000), 1);
         check.same("code", x.endOf(1), 4);
         check.same("most", x.endOf(7), 40);
-        x = with(Build.program(Build.function(0, 0, 0, 1, "call 1, return"),
+        x = check.with(Build.program(Build.function(0, 0, 0, 1, "call 1, return"),
                 Build.function(0, 1, 0, 1, "call 1, return, push 1, add, return", Build.handler(0, 1, 2, 4))));
         check.same("caught by the one that calls", x.runIt(false, 20000), 0);
         check.same("the code and 1", x.endOf(1), 5);
         check.same("most", x.endOf(7), 40);
         check.same("40 CALLS, the last one throws; 2 that add 1; 40 RETURNS", x.endOf(2), 40 + 2 + 40);
-        x = with(Build.main("push 1, return"));
+        x = check.with(Build.main("push 1, return"));
         x.runIt(false, 0);
         check.same("FUNCTION 0 alone", x.endOf(7), 1);
     }
 
     private static void functionZeroCallsItself() {
         // It is a CALL like others: what comes back goes on behind it.
-        GuardForge x = with(Build.main("host 0, if 6, call 0, push 3, add, return, push 10, return"));
+        GuardForge x = check.with(Build.main("host 0, if 6, call 0, push 3, add, return, push 10, return"));
         x.addAnswer(0);
         x.addAnswer(1);
         check.same("ends", x.runIt(false, 100), 0);
@@ -213,47 +200,47 @@ public final class RunTest {
         code("push 5, push 0, rem, return", 1);
         code("push -77, throw", -77);
         code("push 0, throw", 0);
-        ends("any code", Build.main("push 5, push 0, div, return, return", Build.handler(0, 3, 4)), 0, 1);
-        ends("this code", Build.main("push 5, push 0, div, return, return", Build.handler(2, 3, 4, 1)), 0, 1);
-        ends("another code", Build.main("push 5, push 0, div, return, return", Build.handler(2, 3, 4, 2)), 1, 1);
-        ends("ahead of its range", Build.main("push 5, push 0, div, return, return", Build.handler(3, 4, 4)), 1, 1);
-        ends("behind its range", Build.main("push 5, push 0, div, return, return", Build.handler(0, 2, 4)), 1, 1);
-        ends("the code is alone on the stack", Build.main("push 5, push 9, push 0, div, return, push 3, add, return",
+        check.ends("any code", Build.main("push 5, push 0, div, return, return", Build.handler(0, 3, 4)), 0, 1);
+        check.ends("this code", Build.main("push 5, push 0, div, return, return", Build.handler(2, 3, 4, 1)), 0, 1);
+        check.ends("another code", Build.main("push 5, push 0, div, return, return", Build.handler(2, 3, 4, 2)), 1, 1);
+        check.ends("ahead of its range", Build.main("push 5, push 0, div, return, return", Build.handler(3, 4, 4)), 1, 1);
+        check.ends("behind its range", Build.main("push 5, push 0, div, return, return", Build.handler(0, 2, 4)), 1, 1);
+        check.ends("the code is alone on the stack", Build.main("push 5, push 9, push 0, div, return, push 3, add, return",
                 Build.handler(0, 4, 5)), 0, 4);
-        ends("locals stay", Build.main("push 6, store 0, push 8, throw, load 0, add, return", Build.handler(3, 4, 4)), 0, 14);
-        ends("thrown in a handler", Build.main("push 1, throw, push 1, add, throw, return",
+        check.ends("locals stay", Build.main("push 6, store 0, push 8, throw, load 0, add, return", Build.handler(3, 4, 4)), 0, 14);
+        check.ends("thrown in a handler", Build.main("push 1, throw, push 1, add, throw, return",
                 Build.handler(1, 2, 2), Build.handler(4, 5, 5)), 0, 2);
         // A handler whose range has its own target: for ever, as long as there is fuel.
-        ends("again and again", Build.main("push 1, throw", Build.handler(0, 2, 1)), 3, 0);
+        check.ends("again and again", Build.main("push 1, throw", Build.handler(0, 2, 1)), 3, 0);
         // What was on the stack is gone each time, however often it throws.
-        ends("with more and more below", Build.main("push 1, push 2, throw, pop, jump 0", Build.handler(0, 3, 3)), 3, 0);
-        GuardForge x = with(Build.main("push 5, push 0, div, return, return", Build.handler(0, 3, 4)));
+        check.ends("with more and more below", Build.main("push 1, push 2, throw, pop, jump 0", Build.handler(0, 3, 3)), 3, 0);
+        GuardForge x = check.with(Build.main("push 5, push 0, div, return, return", Build.handler(0, 3, 4)));
         x.runIt(false, 100);
         check.same("one that throws is a step", x.endOf(2), 4);
     }
 
     private static void handlerOrder() {
-        ends("the first that is for it", Build.main("push 7, throw, push 1, add, return, push 2, add, return",
+        check.ends("the first that is for it", Build.main("push 7, throw, push 1, add, return, push 2, add, return",
                 Build.handler(1, 2, 5, 7), Build.handler(1, 2, 2)), 0, 9);
-        ends("the first of any", Build.main("push 7, throw, push 1, add, return, push 2, add, return",
+        check.ends("the first of any", Build.main("push 7, throw, push 1, add, return, push 2, add, return",
                 Build.handler(1, 2, 2), Build.handler(1, 2, 5, 7)), 0, 8);
-        ends("the second that is for it", Build.main("push 7, throw, push 1, add, return, push 2, add, return",
+        check.ends("the second that is for it", Build.main("push 7, throw, push 1, add, return, push 2, add, return",
                 Build.handler(1, 2, 2, 8), Build.handler(1, 2, 5)), 0, 9);
-        ends("a code below 0", Build.main("push -7, throw, return", Build.handler(1, 2, 2, -7)), 0, -7);
+        check.ends("a code below 0", Build.main("push -7, throw, return", Build.handler(1, 2, 2, -7)), 0, -7);
     }
 
     private static void thrownThroughCalls() {
         byte[] thrower = Build.function(1, 1, 0, 0, "load 0, throw");
-        ends("to the call", Build.program(
+        check.ends("to the call", Build.program(
                 Build.function(0, 0, 0, 1, "push 50, push 60, call 1, return, push 1, add, return", Build.handler(2, 3, 4)),
                 thrower), 0, 61);
-        ends("through two", Build.program(
+        check.ends("through two", Build.program(
                 Build.function(0, 0, 0, 1, "push 60, call 2, push 0, return, push 1, add, return", Build.handler(1, 2, 4, 60)),
                 thrower, Build.function(1, 1, 0, 0, "load 0, call 1, return, return", Build.handler(0, 1, 3),
                         Build.handler(1, 2, 3, 5))),
                 0, 61);
-        ends("by none", Build.program(Build.function(0, 0, 0, 1, "push 60, call 1, push 0, return"), thrower), 1, 60);
-        GuardForge x = with(Build.program(
+        check.ends("by none", Build.program(Build.function(0, 0, 0, 1, "push 60, call 1, push 0, return"), thrower), 1, 60);
+        GuardForge x = check.with(Build.program(
                 Build.function(0, 1, 0, 1, "push 60, call 1, push 0, return, push 61, call 1, return",
                         Build.handler(1, 2, 4)), thrower));
         check.same("thrown twice", x.runIt(false, 100), 1);
@@ -262,7 +249,7 @@ public final class RunTest {
     }
 
     private static void answers() {
-        GuardForge x = with(Build.main("host 0, host 0, host 0, push 100, mul, add, push 100, mul, add, return"));
+        GuardForge x = check.with(Build.main("host 0, host 0, host 0, push 100, mul, add, push 100, mul, add, return"));
         check.same("first", x.addAnswer(1), 1);
         check.same("second", x.addAnswer(-2), 2);
         check.same("how many", x.lookAt(8), 2);
@@ -289,7 +276,7 @@ public final class RunTest {
     }
 
     private static void trace() {
-        GuardForge x = with(Build.main("host 4, push 11, host 1, push 21, push 22, host 6, push 31, push 32, push 33, "
+        GuardForge x = check.with(Build.main("host 4, push 11, host 1, push 21, push 22, host 6, push 31, push 32, push 33, "
                 + "host 15, return"));
         for (int k = 1; k <= 3; k++) {
             x.addAnswer(k * 7);
@@ -308,7 +295,7 @@ public final class RunTest {
             check.same("traceAt(" + i + ", 0)", x.traceAt(i, 0), 0);
         }
         // The first 256 are kept, all are counted.
-        x = with(Build.main("push 300, store 0, load 0, host 1, pop, load 0, push 1, sub, dup, store 0, if 2, push 1, return"));
+        x = check.with(Build.main("push 300, store 0, load 0, host 1, pop, load 0, push 1, sub, dup, store 0, if 2, push 1, return"));
         check.same("run", x.runIt(false, 20000), 0);
         check.same("300 calls", x.endOf(3), 300);
         check.same("the last one kept", x.traceAt(255, 1), 45);
@@ -323,7 +310,7 @@ public final class RunTest {
     }
 
     private static void fuel() {
-        GuardForge x = with(Build.main("push 1, push 2, add, return"));
+        GuardForge x = check.with(Build.main("push 1, push 2, add, return"));
         int[] due = {3, 3, 3, 3, 0, 0};
         for (int n = 0; n < due.length; n++) {
             check.same("runIt with " + n, x.runIt(false, n), due[n]);
@@ -336,18 +323,18 @@ public final class RunTest {
         check.same("nothing forged", x.runIt(true, 5), -1);
         check.same("the latest run stays", x.endOf(1), 3);
         check.same("fuel 20000", x.runIt(false, 20000), 0);
-        x = with(Build.main("jump 0"));
+        x = check.with(Build.main("jump 0"));
         check.same("for ever", x.runIt(false, 20000), 3);
         check.same("20000 steps", x.endOf(2), 20000);
         // Guards are no steps, but ahead of one fuel is looked at.
-        x = with(Build.main("guard 0, guard 0, host 0, return"));
+        x = check.with(Build.main("guard 0, guard 0, host 0, return"));
         check.same("fuel 0", x.runIt(false, 0), 3);
         check.same("no guard is passed", x.endOf(4), 0);
         check.same("fuel 1", x.runIt(false, 1), 3);
         check.same("both are passed", x.endOf(4), 2);
         check.same("fuel 2", x.runIt(false, 2), 0);
         check.same("two steps", x.endOf(2), 2);
-        x = with(Build.main("push 1, guard 0, guard 0, return"));
+        x = check.with(Build.main("push 1, guard 0, guard 0, return"));
         check.same("fuel is gone ahead of a guard", x.runIt(false, 1), 3);
         check.same("so it is not passed", x.endOf(4), 0);
     }
