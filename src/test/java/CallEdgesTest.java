@@ -2,7 +2,7 @@ import java.nio.charset.StandardCharsets;
 import java.util.Map;
 
 /**
- * Promises 1 to 5, 8 and 17 to 25, numbers that calls take: each sentence that names a boundary case, one method
+ * Promises 1 to 8 and 17 to 25, numbers that calls take: each sentence that names a boundary case, one method
  * each, the sentence ahead of it.
  */
 public final class CallEdgesTest {
@@ -29,6 +29,8 @@ public final class CallEdgesTest {
         functionOf();
         lookAt();
         faultOfTheLatestLoad();
+        whatLoadPolicyChanges();
+        whatLoadProgramChanges();
         fiveHundredTwelveCalls();
         check.end();
     }
@@ -490,6 +492,53 @@ public final class CallEdgesTest {
         told(x, 5, 0);
         Check.policy(x, "(node a)");
         told(x, 0, -1);
+    }
+
+    /** An object with something of everything, THE WATCH in state 1 and its counter 1. */
+    private static GuardForge withAll() {
+        GuardForge x = check.with("(counter c 5 (up 0))(node a (go 0 b))(node b (go 0 b) (go 4 b))",
+                Build.program(Build.function(0, 0, 0, 1, "host 0, return")));
+        check.same("forge", x.forgeIt(), 1);
+        check.same("answer", x.addAnswer(6), 1);
+        check.same("run", x.runIt(true, 9), 0);
+        check.same("save", x.saveProgram(true), 17);
+        check.same("watch", x.watchCall(0, 0, 0, 0), 1);
+        check.same("counter", x.counterOf(0, true), 1);
+        return x;
+    }
+
+    /** Promise 6: "0, and that is the POLICY, nothing is FORGED, THE WATCH is as at first, the PROGRAM stays" */
+    private static void whatLoadPolicyChanges() {
+        GuardForge x = withAll();
+        String text = "(counter c 5 (up 0))(counter d 5)(node a (go 0 b))(node b (go 0 b) (go 4 b))";
+        check.same("load", Check.policy(x, text), 0);
+        check.same("counters", x.lookAt(0), 2);
+        check.same("nothing forged", x.lookAt(7), -1);
+        check.same("nothing forged to run", x.runIt(true, 9), -1);
+        check.same("state of the watch", x.lookAt(13), 0);
+        check.same("counter of the watch", x.counterOf(0, true), 0);
+        check.same("no run", x.endOf(0), -1);
+        check.same("the program stays", x.lookAt(6), 2);
+        check.same("and can be forged", x.forgeIt(), 1);
+        check.same("answers stay", x.lookAt(8), 1);
+        check.same("bytes stay", x.lookAt(9), text.length());
+        check.same("written stay", x.lookAt(10), 17);
+    }
+
+    /** Promise 7: "0, and that is the PROGRAM, nothing is FORGED (THE WATCH stays)" */
+    private static void whatLoadProgramChanges() {
+        GuardForge x = withAll();
+        check.same("load", Check.program(x, Build.program(Build.function(0, 0, 0, 0, "return"))), 0);
+        check.same("instructions", x.lookAt(6), 1);
+        check.same("nothing forged", x.lookAt(7), -1);
+        check.same("nothing forged to run", x.runIt(true, 9), -1);
+        check.same("state of the watch stays", x.lookAt(13), 1);
+        check.same("counter of the watch stays", x.counterOf(0, true), 1);
+        check.same("no run", x.endOf(0), -1);
+        check.same("the policy stays", x.lookAt(4), 2);
+        check.same("answers stay", x.lookAt(8), 1);
+        check.same("bytes stay", x.lookAt(9), 13);
+        check.same("written stay", x.lookAt(10), 17);
     }
 
     /** "An object is used for at most 512 calls after it has been made": the longest text and program, and the last call */

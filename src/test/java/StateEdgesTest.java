@@ -21,6 +21,7 @@ public final class StateEdgesTest {
         allNodes();
         firstRule();
         atMostAndZero();
+        guardsThatCount();
         intervalsOfArguments();
         intervalsOfCounters();
         severalDivisions();
@@ -190,6 +191,26 @@ public final class StateEdgesTest {
         x.watchCall(4, 0, 0, 0);
         check.same("c is 0 again", x.counterOf(0, true), 0);
         check.same("d is 0 again", x.counterOf(1, true), 0);
+    }
+
+    /** "Of a CALL OUTSIDE c, GUARDS that count are those of WAYS whose C is c, or any (in (not G), too)." */
+    private static void guardsThatCount() {
+        for (int c = 0; c < 16; c++) {
+            GuardForge x = check.rightText("(counter c 5)(node a (go " + c + " (not (not (count c less 3))) a))");
+            check.same("one letter more, of " + c, x.lookAt(2), 17);
+            check.same("ahead of it", x.letterOf(c, 0), c);
+            check.same("it", x.letterOf(c + 1, 0), c);
+            check.same("its counter", x.letterOf(c + 1, 4), 3);
+        }
+        check.same("of any, two each", check.rightText("(counter c 5)(node a (go any (not (count c less 3)) a))").lookAt(2), 32);
+        // Of any, an ARGUMENT is divided where there is one: of 12, 8 and 4 calls.
+        for (int i = 0; i < 3; i++) {
+            check.same("argument " + i + " of any", check.rightText("(node a (go any (arg " + i + " less 3) a))").lookAt(2), 28 - 4 * i);
+        }
+        // Those of RULES do not count, those of NODES that are never there do.
+        check.same("rules", check.rightText("(counter c 5 (up any (count c less 3)) (zero 1 (arg 0 same 3)))(node a (go any a))")
+                .lookAt(2), 16);
+        check.same("a node that is never there", check.rightText("(node a)(node b (go 1 (arg 0 same 3) b))").lookAt(2), 18);
     }
 
     /** The least ints of the letters of one call, which are all of one subject. */
