@@ -217,7 +217,7 @@ public final class RandomTest {
         return made;
     }
 
-    /** The watch goes on just as long as there are nodes, and its counters are those of the trace. */
+    /** "A TRACE OBEYS if there are NODES behind each CALL OUTSIDE of it.": just as long the watch goes on, with its counters */
     private static void watched(GuardForge x, Simple simple, Random random) {
         for (int trace = 0; trace < 4; trace++) {
             x.resetWatch();
@@ -235,7 +235,10 @@ public final class RandomTest {
         }
     }
 
-    /** No two states are alike, all are come to, and in the order of letters. */
+    /**
+     * "made to tables with as few states as can be for all rows of letters": no two states are alike, all are come to, and
+     * in the order of letters
+     */
     private static void fewest(GuardForge x) {
         int states = x.lookAt(4);
         int letters = x.lookAt(2);
