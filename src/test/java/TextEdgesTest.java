@@ -244,6 +244,15 @@ public final class TextEdgesTest {
         at(all + "@(node y)", 2);
         at(all + "@(node a)", 2);
         at(all + "@)", 2);
+        // Behind 24 NODES nothing can be but blanks, however many COUNTERS are ahead of them.
+        for (int n = 0; n <= 6; n++) {
+            String full = Build.named(n, "(counter ", " 1)") + all;
+            right(full + " \n ");
+            for (String token : new String[] {"(", ")", "x", "5", "node", "counter", "(node y)", "(counter y 1)"}) {
+                at(full + "@" + token, 2);
+            }
+            at(full + "@#", 1);
+        }
         check.wrongText("(counter c 1)", 4, 13);
         // The last one can be gone to.
         GuardForge x = check.rightText(Build.named(23, "(node ", "(go 1 x))") + "(node x (go 2 x))");
