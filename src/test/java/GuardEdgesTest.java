@@ -546,7 +546,7 @@ public final class GuardEdgesTest {
 
     /** Promise 9: "-2 if .. its bytes would be more than 8192", which takes more than the 512 calls that are promised */
     private static void bytesOfWhatIsForged() {
-        // One of each INSTRUCTION and two HANDLERS count as long as they are.
+        // One of each INSTRUCTION, a HANDLER for any code and two for one code count as long as they are.
         StringBuilder each = new StringBuilder();
         for (int op = 0; op < 29; op++) {
             each.append(Build.NAMES.get(op)).append(Build.width(op) > 0 ? " 0" : "").append(", ");
@@ -556,7 +556,8 @@ public final class GuardEdgesTest {
             int bytes = 4;
             for (int f = 0; f < 11; f++) {
                 functions[f] = f < 10 ? Build.function(0, 0, 0, 0, "return, " + Build.times(197, "host 0", "return"))
-                        : Build.function(0, 1, 0, 0, "return, " + each + "return", Build.handler(1, 2, 1), Build.handler(1, 2, 1, 5));
+                        : Build.function(0, 1, 0, 0, "return, " + each + "return", Build.handler(1, 2, 1),
+                                Build.handler(1, 2, 1, 5), Build.handler(1, 2, 1, 6));
                 bytes += functions[f].length + 2 * (f < 10 ? 197 : 1);
             }
             int left = 8192 + over - bytes - 8;

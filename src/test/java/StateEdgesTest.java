@@ -28,6 +28,7 @@ public final class StateEdgesTest {
         whichInterval();
         orderOfLetters();
         mostLetters();
+        farTooManyLetters();
         mostSets();
         setsAreNotEmpty();
         alike();
@@ -359,6 +360,43 @@ public final class StateEdgesTest {
         check.wrongText(any + "(go 15 (arg 0 less 1) a))", 7, any.length() + 25);
         // What divides nothing does not count.
         check.rightText(any + "(go 1 (arg 0 less -2147483648) (count c less 16) a))");
+        // All 512 are of use: the ways of nodes by the first letter, by one between and by the last.
+        x = check.rightText("(counter c 15)(counter d 1)(node s (go 0 t))(node t (go 0 t) (go 4 s) (go 15 u))(node u (go 0 s))"
+                + "(node a " + ways + "(count d less 1) a))");
+        check.same("512 letters", x.lookAt(2), 512);
+        check.same("three states", x.lookAt(4), 3);
+        int[][] due = {{1, -1, -1}, {1, 0, 2}, {0, -1, -1}};
+        int[] calls = {0, 4, 15};
+        for (int p = 0; p < 3; p++) {
+            for (int n = 0; n < 3; n++) {
+                check.same("from " + p + " by the first of " + calls[n], x.wayOf(p, 32 * calls[n]), due[p][n]);
+                check.same("from " + p + " by the last of " + calls[n], x.wayOf(p, 32 * calls[n] + 31), due[p][n]);
+                check.same("from " + p + " by the one behind", x.wayOf(p, 32 * calls[n] + 32), -1);
+            }
+        }
+    }
+
+    /** "7: more than 512 LETTERS", by far: nearly as many as there can be in all calls, and then the last one alone has as many again */
+    private static void farTooManyLetters() {
+        // Those behind 200 take more than the 512 calls that are promised.
+        for (int more : new int[] {5, 8, 9, 100, 190, 200, 236, 237, 260}) {
+            StringBuilder text = new StringBuilder("(node a");
+            int guards = 0;
+            for (int k = 0; k < 20 + more; k++) {
+                // Each divides twice: the first 20 all of 12 calls, the others call 15.
+                if (guards % 32 == 0 && guards > 0) {
+                    text.append(")(node ").append((char) ('a' + guards / 32));
+                }
+                text.append(guards % 4 > 0 ? "" : k < 20 ? "(go any" : "(go 15").append("(arg 0 same ").append(2 * k).append(')');
+                guards++;
+                text.append(guards % 4 == 0 || k == 19 + more ? "a)" : "");
+            }
+            text.append(')');
+            boolean right = 4 + 12 * 41 + 2 * more <= 512;
+            GuardForge x = new GuardForge();
+            check.policyFault(x, text.toString(), right ? 0 : 7, right ? -1 : text.length());
+            check.same("letters with " + more, x.lookAt(2), right ? 496 + 2 * more : 16);
+        }
     }
 
     /** "8: more than 63 SETS" */
