@@ -379,7 +379,7 @@ public final class StateEdgesTest {
     /** "7: more than 512 LETTERS", by far: nearly as many as there can be in all calls, and then the last one alone has as many again */
     private static void farTooManyLetters() {
         // Those behind 200 take more than the 512 calls that are promised.
-        for (int more : new int[] {5, 8, 9, 100, 190, 200, 236, 237, 260}) {
+        for (int more : new int[] {5, 8, 9, 100, 190, 200, 236, 237, 260, 400, 430}) {
             StringBuilder text = new StringBuilder("(node a");
             int guards = 0;
             for (int k = 0; k < 20 + more; k++) {
